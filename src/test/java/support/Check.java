@@ -1,0 +1,30 @@
+/** Counts answers that are not as due; a test ends with done(). */
+final class Check {
+    private int right;
+    private int wrong;
+
+    void due(String call, long got, long want) {
+        if (got == want) {
+            right++;
+            return;
+        }
+        wrong++;
+        System.out.println(call + " answered " + got + ", due is " + want);
+    }
+
+    void due(String call, String got, String want) {
+        if (got.equals(want)) {
+            right++;
+            return;
+        }
+        wrong++;
+        System.out.println(call + " answered [" + got + "], due is [" + want + "]");
+    }
+
+    void done() {
+        System.out.println(right + " answers as due, " + wrong + " not as due");
+        if (wrong != 0 || right == 0) {
+            System.exit(1);
+        }
+    }
+}
