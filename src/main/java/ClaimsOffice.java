@@ -826,7 +826,7 @@ public final class ClaimsOffice {
                 }
                 return finishBatch(act, refused == NONE ? heldCount : -20 - refused);
             }
-            int answer = tellOrMake(deed, text);
+            int answer = act == ACT_CLAUSES ? tellClauses(deed, text) : tellOrMake(deed);
             if (answer >= 0) {
                 now++;
                 logDeed(deed, 0, text);
@@ -834,14 +834,13 @@ public final class ClaimsOffice {
             return answer;
         }
 
-        private int tellOrMake(long[] deed, Bytes text) {
+        private int tellOrMake(long[] deed) {
             switch ((int) deed[0]) {
                 case ACT_PERSON: return makePerson();
                 case ACT_RANK: return tellRank(deed);
                 case ACT_POLICY: return makePolicy(deed);
                 case ACT_BUNDLE: return tellBundle(deed);
                 case ACT_PERIOD: return tellPeriod(deed);
-                case ACT_CLAUSES: return tellClauses(deed, text);
                 case ACT_RULE: return tellRule(deed);
                 case ACT_LOSS: return makeLoss(deed);
                 case ACT_PART: return makePart(deed);
@@ -966,13 +965,14 @@ public final class ClaimsOffice {
         private boolean standsWithin(Policy inner, Policy outer) {
             int waiting = 1;
             queue[0] = outer.number;
-            for (int done = 0; done < waiting; done++) {
+            for (int done = 0; done < waiting && done < MOST_POLICIES; done++) {
                 Policy at = policies[queue[done]];
                 if (at == inner) {
                     return true;
                 }
                 for (int place = 0; place < PLACES && at.kind == BUNDLE; place++) {
-                    Policy part = partOf(at, place, now);
+                    Told told = Told.known(at.told, place, now);
+                    Policy part = told == null ? null : policyAt(told.value);
                     boolean waits = part == null;
                     for (int k = 0; k < waiting && !waits; k++) {
                         waits = queue[k] == part.number;
@@ -984,11 +984,6 @@ public final class ClaimsOffice {
                 }
             }
             return false;
-        }
-
-        private Policy partOf(Policy bundle, int place, int moment) {
-            Told told = Told.known(bundle.told, place, moment);
-            return told == null ? null : policyAt(told.value);
         }
 
         private int tellPeriod(long[] deed) {
@@ -1193,7 +1188,8 @@ public final class ClaimsOffice {
             Policy cover = theCase.policy;
             int place = theCase.place;
             for (int step = 0; step < MOST_POLICIES && cover != null && cover.kind == BUNDLE; step++) {
-                cover = partOf(cover, place, moment);
+                Told told = Told.known(cover.told, place, moment);
+                cover = told == null ? null : policyAt(told.value);
                 place = 0;
             }
             return cover == null || cover.kind == BUNDLE ? null : cover;
@@ -1436,6 +1432,7 @@ public final class ClaimsOffice {
                 i = until;
             }
             tokens[size] = END_OF_TEXT;
+            numbers[size] = 0;
             starts[size] = text.size;
         }
 
@@ -1469,28 +1466,17 @@ public final class ClaimsOffice {
             return null;
         }
 
-        private boolean take(int token) {
-            if (fault != NONE || tokens[at] != token) {
-                fail();
+        /** Goes on behind a TOKEN of these; else there is a FAULT, if there was none yet. */
+        private boolean take(int lowest, int highest) {
+            if (fault != NONE) {
+                return false;
+            }
+            if (tokens[at] < lowest || tokens[at] > highest) {
+                fault = starts[at];
                 return false;
             }
             at++;
             return true;
-        }
-
-        private int takeNumber() {
-            int number = numbers[at];
-            return take(NUMBER) ? number : 0;
-        }
-
-        private int takeKind() {
-            int word = tokens[at];
-            if (word < Node.FIRST_KIND || word > Node.ANY) {
-                fail();
-                return Node.ANY;
-            }
-            at++;
-            return word;
         }
 
         private Node readClause() {
@@ -1501,8 +1487,8 @@ public final class ClaimsOffice {
                 case Node.IN:
                 case Node.OUT:
                     at++;
-                    number = takeKind();
-                    if (fault == NONE && tokens[at] == Node.UNLESS) {
+                    number = tokens[at];
+                    if (take(Node.FIRST_KIND, Node.ANY) && tokens[at] == Node.UNLESS) {
                         at++;
                         unless = readOr(0);
                     }
@@ -1513,14 +1499,15 @@ public final class ClaimsOffice {
                 case Node.WAIT:
                 case Node.INTEREST:
                     at++;
-                    number = takeNumber();
+                    number = numbers[at];
+                    take(NUMBER, NUMBER);
                     break;
                 case Node.OWN:
                     at++;
                     word = tokens[at] == Node.LOSS ? Node.OWN_LOSS : Node.OWN_YEAR;
-                    if (take(word == Node.OWN_LOSS ? Node.LOSS : Node.YEAR)) {
-                        number = takeNumber();
-                    }
+                    take(Node.LOSS, Node.YEAR);
+                    number = numbers[at];
+                    take(NUMBER, NUMBER);
                     break;
                 case Node.AVERAGE:
                     at++;
@@ -1528,12 +1515,12 @@ public final class ClaimsOffice {
                 case Node.BY:
                     at++;
                     number = tokens[at] == Node.LOSS ? Node.LOSS : Node.NOTICE;
-                    take(number);
+                    take(number, number);
                     break;
                 default:
                     return fail();
             }
-            take(STOP);
+            take(STOP, STOP);
             return new Node(word, number, unless);
         }
 
@@ -1580,22 +1567,17 @@ public final class ClaimsOffice {
                 return denied == null ? null : new Node(Node.NOT, 0, denied);
             }
             Node within = readOr(open + 1);
-            return take(SHUT) ? within : null;
+            return take(SHUT, SHUT) ? within : null;
         }
 
         private Node readTest() {
             int word = tokens[at];
-            if (word == Node.IS) {
-                at++;
-                int kind = takeKind();
-                return fault != NONE ? null : new Node(word, kind, null);
+            if (!take(Node.AMOUNT, Node.IS)) {
+                return null;
             }
-            if (word < Node.AMOUNT || word > Node.SORT) {
-                return fail();
-            }
-            at++;
-            int number = takeNumber();
-            return fault != NONE ? null : new Node(word, number, null);
+            int number = word == Node.IS ? tokens[at] : numbers[at];
+            boolean ends = word == Node.IS ? take(Node.FIRST_KIND, Node.ANY) : take(NUMBER, NUMBER);
+            return ends ? new Node(word, number, null) : null;
         }
     }
 
@@ -1629,9 +1611,7 @@ public final class ClaimsOffice {
         }
 
         void fail(int found) {
-            if (finding == 0) {
-                finding = found;
-            }
+            finding = found;
             over = true;
         }
 
@@ -1756,7 +1736,7 @@ public final class ClaimsOffice {
                 addRow(ROW_SELF, self, -(s * self / 100));
                 addRow(ROW_OWN, 0, -Math.min(numberOf(Node.OWN_LOSS, 0), s));
                 addRow(ROW_LIMIT, 0, -Math.max(s - numberOf(Node.LOSS, MOST_MONEY * MOST_ITEMS), 0));
-                sharedRow();
+                sharedRow(takeAlone());
             }
         }
 
@@ -1775,13 +1755,15 @@ public final class ClaimsOffice {
         }
 
         private void endWith(int code, int argument) {
-            addRow(code, argument, -s);
+            view.addRow(code, argument, -s);
             view.over = true;
+            s = 0;
         }
 
         private long times(long a, long b) {
             if (b != 0 && a > GREATEST / b) {
-                view.fail(GREAT);
+                view.finding = GREAT;
+                view.over = true;
                 return 0;
             }
             return a * b;
@@ -1950,14 +1932,13 @@ public final class ClaimsOffice {
                 case Node.LATENESS:
                     return theCase.notice - loss.day > node.number;
                 case Node.SORT:
-                    return hasSort(node.number);
+                    return hasSort(loss.base(), node.number);
                 default:
                     return node.number == Node.ANY || lossIs(node.number - Node.FIRST_KIND, 0);
             }
         }
 
-        private boolean hasSort(int sort) {
-            Loss base = loss.base();
+        private static boolean hasSort(Loss base, int sort) {
             for (int i = 0; i < base.items; i++) {
                 if (base.sorts[i] == sort) {
                     return true;
@@ -1981,7 +1962,7 @@ public final class ClaimsOffice {
             }
             long product = times(s, sum);
             long values = sumOfMoney(1);
-            if (values == 0) {
+            if (!view.over && values == 0) {
                 view.fail(NOUGHT);
             }
             if (!view.over) {
@@ -2043,8 +2024,7 @@ public final class ClaimsOffice {
 
         // ---- shares between INSURERS
 
-        private void sharedRow() {
-            int others = takeAlone();
+        private void sharedRow(int others) {
             if (others == 0) {
                 return;
             }

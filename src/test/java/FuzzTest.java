@@ -14,12 +14,15 @@ public final class FuzzTest {
     private final List<String> calls = new ArrayList<>();
     private final int firstDay;
     private final int small;
+    private final boolean friendly;
+    private int types;
     private boolean wrong;
 
     private FuzzTest(long seed) {
         random = new Random(seed);
         firstDay = random.nextInt(3) == 0 ? 0 : random.nextInt(3000);
         small = new int[] {50, 1000, 100000, 1000000000}[random.nextInt(4)];
+        friendly = random.nextInt(3) != 0;
     }
 
     public static void main(String[] args) throws Exception {
@@ -101,15 +104,16 @@ public final class FuzzTest {
 
     private void play() throws Exception {
         int length = 40 + pick(472);
+        types = 0;
         if (pick(8) != 0) {
             begin();
         }
-        while (calls.size() < length && !wrong) {
+        while (calls.size() - types < length && !wrong) {
             switch (pick(20)) {
                 case 0: case 1: told(); break;
                 case 2: losses(); break;
                 case 3: case 4: losses(); notice(); break;
-                case 5: case 6: case 7: case 8: case 9: case 10: fact(); break;
+                case 5: case 6: case 7: case 8: case 9: case 10: fact(); fact(); break;
                 case 11: batches(); break;
                 case 12: case 13: case 14: look(); break;
                 case 15: asks(); break;
@@ -127,7 +131,7 @@ public final class FuzzTest {
         call("person");
         int policies = 1 + pick(5);
         for (int i = 0; i < policies; i++) {
-            call("policy", pick(4) == 0 ? 6 : pick(6), 0, firstDay + pick(30), firstDay + 300 + pick(800));
+            call("policy", i > 0 && pick(4) == 0 ? 6 : pick(6), 0, firstDay + pick(30), firstDay + 400 + pick(800));
         }
         for (Model.Policy p : model.o.policies) {
             for (int y = p.first / 365; y <= p.last / 365 && p.kind != 6; y++) {
@@ -138,7 +142,7 @@ public final class FuzzTest {
             if (p.kind == 6) {
                 call("bundle", p.number, 0, pick(policies));
                 call("bundle", p.number, 1, pick(policies));
-            } else if (pick(2) == 0) {
+            } else if (friendly || pick(2) == 0) {
                 clausesOf(p.number, goodText());
             }
         }
@@ -165,9 +169,11 @@ public final class FuzzTest {
             call("part", pick(2) == 0 ? known - 1 : of(known), pick(5) == 0 ? 100 : of(101));
             return;
         }
-        call("loss", of(5), day(firstDay + pick(500)));
+        call("loss", of(5), day(firstDay + pick(pick(3) == 0 ? 500 : 60)));
         for (int i = pick(4); i > 0; i--) {
-            call("item", pick(6) == 0 ? of(known + 1) : known, pick(3) == 0 ? 3 : of(10), money(), money());
+            long amount = money();
+            long value = pick(2) == 0 ? money() : amount + pick(small);
+            call("item", pick(6) == 0 ? of(known + 1) : known, pick(3) == 0 ? 3 : of(10), amount, value);
         }
     }
 
@@ -208,7 +214,7 @@ public final class FuzzTest {
     private void pay(int c, Model.Case at, int day) throws Exception {
         long owed = at != null && day >= at.notice && day < 10950 && pick(4) != 0
                 ? call("owed", c, day, model.o.now) : money();
-        long cents = pick(4) == 0 || owed == Long.MIN_VALUE ? money() : owed - (pick(2) == 0 ? 0 : pick(small));
+        long cents = pick(6) == 0 || owed <= 0 ? money() : owed - (pick(3) == 0 ? 0 : random.nextLong(owed));
         call("pay", c, day, pick(5) == 0 ? cents + 1 : cents);
         if (pick(6) == 0 && at != null) {
             call("close", c, day);
@@ -332,6 +338,7 @@ public final class FuzzTest {
                 w = w << 8 | piece.charAt(k);
             }
             call("type", w, piece.length());
+            types++;
         }
         if (rarely()) {
             call("type", random.nextLong(), new int[] {-1, 9, 3}[pick(3)]);
@@ -371,16 +378,16 @@ public final class FuzzTest {
             case 5: return "own year " + pick(small);
             case 6: return "wait " + pick(30);
             case 7: return "average";
-            case 8: return "interest " + (pick(20) == 0 ? 999999999 : pick(3000));
+            case 8: return "interest " + (pick(8) == 0 ? 999999999 : pick(30000));
             case 9: return "by " + (pick(3) == 0 ? "notice" : "loss");
             default:
-                return (pick(2) == 0 ? "in " : "out ") + kind()
+                return (pick(friendly ? 6 : 2) != 0 ? "in " : "out ") + kind()
                         + (pick(2) == 0 ? "" : " unless " + condition(pick(4)));
         }
     }
 
     private String goodText() {
-        StringBuilder b = new StringBuilder();
+        StringBuilder b = new StringBuilder(friendly ? "in any;" : "");
         for (int i = pick(6); i > 0 && b.length() < 200; i--) {
             b.append(clause()).append(pick(2) == 0 ? ";" : " ;\n ");
         }

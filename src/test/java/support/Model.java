@@ -376,7 +376,7 @@ final class Model {
                 while (i < text.length() && text.charAt(i) >= '0' && text.charAt(i) <= '9') {
                     i++;
                 }
-                token = "#";
+                token = "00";
             } else {
                 i++;
                 token = "" + c;
@@ -388,7 +388,7 @@ final class Model {
             if (state == null) {
                 return from;
             }
-            if (token.equals("#") && i - from > 9) {
+            if (token.equals("00") && i - from > 9) {
                 return from + 9;
             }
         }
@@ -410,7 +410,7 @@ final class Model {
             case "unless": return t.equals("unless") ? "cond" : t.equals(";") ? "clause" : null;
             case "own": return t.equals("loss") || t.equals("year") ? "number" : null;
             case "by": return t.equals("loss") || t.equals("notice") ? "stop" : null;
-            case "number": return t.equals("#") ? "stop" : null;
+            case "number": return t.equals("00") ? "stop" : null;
             case "stop": return t.equals(";") ? "clause" : null;
             case "cond":
                 switch (t) {
@@ -421,7 +421,7 @@ final class Model {
                     case "is": return "testkind";
                     default: return null;
                 }
-            case "testnumber": return t.equals("#") ? ended(open) : null;
+            case "testnumber": return t.equals("00") ? ended(open) : null;
             case "testkind": return KINDS.contains(t) ? ended(open) : null;
             default:
                 switch (t) {
