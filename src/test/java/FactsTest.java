@@ -383,5 +383,11 @@ public final class FactsTest {
         d.due("22 the 61st", o.reserve(0, 100, 0, 1), FULL);
         d.due("22 held now", o.count(7), 60);
         d.due("24 undo", o.undo(), 60);
+        o.batch();
+        for (int i = 0; i < 41; i++) {
+            o.reserve(0, 100, 0, i);
+        }
+        d.due("23 the 41st of a case", o.end(), -60);
+        d.due("23 all are undone", o.of(0, 5), 0);
     }
 }

@@ -395,6 +395,30 @@ public final class LogTest {
         d.due("39 tries", d.office.count(6), 1);
         refused("no int in a held act", 1, 40, 28, 128, 128, 128, 128, 16, 0, 44);
         refused("no int in a held act", 1, 40, 28, 129, 128, 128, 128, 16, 0, 44);
+        int[] arguments = {4, 3, 2, 3, 6, 4, 3, 3};
+        int[] longs = {3, 2, -1, -1, 4, 3, 2, 2};
+        for (int act = 12; act <= 19; act++) {
+            for (int k = 0; k < arguments[act - 12]; k++) {
+                takeInHeld(act, arguments[act - 12], k, k == longs[act - 12]);
+            }
+        }
+    }
+
+    /** A held act whose argument k is 2^31, which is no int. */
+    private static void takeInHeld(int act, int arguments, int k, boolean isLong) {
+        int[] bytes = new int[arguments + 7];
+        bytes[0] = 40;
+        bytes[1] = 2 * act;
+        int at = 2;
+        for (int i = 0; i < arguments; i++) {
+            int[] number = i == k ? new int[] {128, 128, 128, 128, 16} : new int[] {0};
+            for (int b : number) {
+                bytes[at++] = b;
+            }
+        }
+        bytes[at] = 44;
+        check.due("39 argument " + k + " of act " + act, new Desk(check).takeIn(Desk.checked(bytes)),
+                isLong ? 3 : -11);
     }
 
     private static void takenInText() {
@@ -408,6 +432,14 @@ public final class LogTest {
         refusedText("no policy", made, 12, 2, 0);
         Desk d = new Desk(check);
         d.due("39 blanks", d.takeIn(Desk.checked(2, 6, 4, 0, 0, 2, 12, 0, 4, 64, 20)), 3);
+        int[] long400 = new int[9 + 400];
+        System.arraycopy(new int[] {2, 6, 4, 0, 0, 2, 12, 0, 160}, 0, long400, 0, 9);
+        java.util.Arrays.fill(long400, 9, long400.length, 64);
+        int[] all = new int[long400.length + 1];
+        System.arraycopy(long400, 0, all, 0, 9);
+        all[9] = 6;
+        System.arraycopy(long400, 9, all, 10, 400);
+        d.due("39 just 400 bytes", new Desk(check).takeIn(Desk.checked(all)), 3);
         d.office.write();
         d.due("39 as they were", Desk.numbers(d.said()).startsWith("2 6 4 0 0 2 12 0 4 64 20 ") ? 1 : 0, 1);
     }

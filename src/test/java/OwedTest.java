@@ -112,6 +112,13 @@ public final class OwedTest {
         d.office.item(0, 3, 40, 40);
         d.dueRows(d.office.notify(0, -1, 0, 20), 20, "100 f0 | 0 0 100");
         d.due("29 a wet storm", d.trace(), "104 30 125 1 22 13");
+        d = Desk.with(check, 0, 600);
+        d.office.loss(STORM, 20);
+        for (int i = 0; i < 6; i++) {
+            d.office.item(0, 9, 100, 100);
+        }
+        d.dueRows(d.office.notify(0, -1, 0, 20), 20, "600 f0 | 0 0 600");
+        d.due("29 a dry storm of six items", d.trace(), "104 30 125 95 125 95 1 22 13");
     }
 
     private static void bodiesOfCars() {

@@ -96,6 +96,8 @@ public final class TellingTest {
             check.due("4 policy", o.policy(i % 7, 0, i, i), i);
         }
         check.due("4 the 101st", o.policy(0, 0, 0, 1), FULL);
+        check.due("4 there is no policy 100", o.bundle(100, 0, NONE), BAD);
+        check.due("4 there is no policy 100", o.bundle(6, 0, 100), BAD);
         check.due("4 a bad one behind it", o.policy(9, 0, 0, 1), BAD);
         check.due("4 policies", o.count(1), 100);
         check.due("4 moment", o.count(4), 101);
@@ -227,6 +229,7 @@ public final class TellingTest {
         d.due("8 two", d.clauses(0, "average; by loss;"), 2);
         d.due("8 the tape is empty", o.count(8), 0);
         d.due("8 none", d.clauses(0, " \n "), 0);
+        d.due("8 the tape is empty", o.count(8), 0);
         d.due("8 an empty tape", o.clauses(0), 0);
         d.due("8 moment", d.now(), 6);
         String text = "average;                ".repeat(20).substring(0, 400);
@@ -276,6 +279,8 @@ public final class TellingTest {
         fault(d, "item\t5;", 4);
         fault(d, "item 5;\u00ff", 7);
         fault(d, "infire;", 0);
+        fault(d, "inz fire;", 0);
+        fault(d, ";".repeat(400), 0);
         fault(d, "interests 5;", 0);
         fault(d, "in fire in water;", 8);
         fault(d, "average;".repeat(31), 240);
@@ -335,6 +340,7 @@ public final class TellingTest {
             check.due("10 loss", o.loss(i % 5, i == 0 ? 10949 : i), i);
         }
         check.due("10 the 201st", o.loss(0, 0), FULL);
+        check.due("10 there is no loss 200", o.part(200, 50), BAD);
         check.due("10 a part behind it", o.part(0, 50), FULL);
         check.due("10 a bad one behind it", o.loss(5, 0), BAD);
         check.due("10 losses", o.count(2), 200);
@@ -404,10 +410,13 @@ public final class TellingTest {
         check.due("13 a bundle without", o.notify(1, -1, 0, 50), BAD);
         check.due("13 a bundle with a fifth", o.notify(1, 4, 0, 50), BAD);
         check.due("13 no such loss", o.notify(0, -1, 2, 50), BAD);
+        check.due("13 no such loss", o.notify(0, -1, -1, 50), BAD);
         check.due("13 no day", o.notify(0, -1, 0, 10950), BAD);
         check.due("13 no day", o.notify(0, -1, 0, -1), BAD);
         check.due("13 ahead of the loss", o.notify(0, -1, 0, 49), DAY);
         check.due("13 on its day", o.notify(0, -1, 0, 50), 0);
+        o.loss(0, 40);
+        check.due("13 ahead of the only other notice", o.notify(0, -1, 2, 49), DAY);
         check.due("13 in a place", o.notify(1, 3, 1, 70), 1);
         check.due("13 ahead of another notice", o.notify(0, -1, 0, 69), DAY);
         for (int i = 2; i < 100; i++) {
@@ -415,8 +424,9 @@ public final class TellingTest {
         }
         check.due("13 ahead of another notice", o.notify(0, -1, 0, 69), DAY);
         check.due("13 the 101st", o.notify(0, -1, 0, 70), FULL);
+        check.due("13 there is no case 100", o.close(100, 70), BAD);
         check.due("13 cases", o.count(3), 100);
-        check.due("13 moment of a case", o.of(1, 6), 7);
+        check.due("13 moment of a case", o.of(1, 6), 8);
         o.batch();
         check.due("13 a fact is held", o.close(0, 70), HELD);
         check.due("13 in a batch", o.notify(0, -1, 0, 70), STATE);
