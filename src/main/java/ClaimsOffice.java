@@ -1107,7 +1107,7 @@ public final class ClaimsOffice {
             if (act == ACT_REOPEN && isLate(theCase, day, (int) deeds[at + 3])) {
                 return LATE;
             }
-            long cents = CENTS_AT[act] == 0 ? 0 : deeds[at + CENTS_AT[act]];
+            long cents = centsIn(deeds, at);
             long interest = 0;
             if (act == ACT_PAY) {
                 if (working.met >= MOST_FINDINGS) {
@@ -1132,15 +1132,19 @@ public final class ClaimsOffice {
             return 1;
         }
 
+        private static long centsIn(long[] deeds, int at) {
+            int place = CENTS_AT[(int) deeds[at]];
+            return place == 0 ? 0 : deeds[at + place];
+        }
+
         /** Whether the numbers of a FACT behind its day are such as it may have. */
         private boolean isAsTold(Case theCase, long[] deeds, int at) {
-            int act = (int) deeds[at];
-            long cents = CENTS_AT[act] == 0 ? 0 : deeds[at + CENTS_AT[act]];
+            long cents = centsIn(deeds, at);
             if (!isMoney(cents)) {
                 return false;
             }
             long which = deeds[at + 3];
-            switch (act) {
+            switch ((int) deeds[at]) {
                 case ACT_RESERVE:
                 case ACT_REOPEN:
                     return which >= 0 && which <= 2;
