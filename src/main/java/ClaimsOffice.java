@@ -52,7 +52,10 @@ public final class ClaimsOffice {
     private final long[] deed = new long[DEED];
     private final Working working = new Working(new Working(null));
     private final Reader reader = new Reader();
-    private Book book = new Book(working, reader);
+    private final Stock stock = new Stock();
+    private Book book = new Book(working, reader, stock);
+    /** Where takeIn() does the acts of THE TAPE, once there was such a call; it has nothing between them. */
+    private Book spare;
     private View looked = new View();
     private int takings;
 
@@ -335,21 +338,25 @@ public final class ClaimsOffice {
         }
         takings++;
         int end = tape.size - 4;
-        if (end < 0) {
-            return -10;
-        }
-        Book fresh = new Book(working, reader);
+        Book fresh = spare == null ? new Book(working, reader, stock) : spare;
+        int fault = end < 0 ? 0 : NONE;
         int acts = 0;
         tape.startReading();
-        for (int step = 0; step < MOST_TAPE && tape.at < end; step++) {
+        for (int step = 0; step < MOST_TAPE && fault == NONE && tape.at < end; step++) {
             int first = tape.at;
-            if (!readDeed(end) || isRefused(fresh.perform(deed, text))) {
-                return -10 - first;
+            if (readDeed(end) && !isRefused(fresh.perform(deed, text))) {
+                acts++;
+            } else {
+                fault = first;
             }
-            acts++;
         }
-        if (!checkStandsAt(end)) {
-            return -10 - end;
+        if (fault == NONE && !checkStandsAt(end)) {
+            fault = end;
+        }
+        spare = fault == NONE ? book : fresh;
+        spare.clear();
+        if (fault != NONE) {
+            return -10 - fault;
         }
         book = fresh;
         tape.clear();
@@ -566,51 +573,50 @@ public final class ClaimsOffice {
         }
     }
 
-    /** Something that was told and holds from its moment on, until it is told anew. */
-    private static final class Told {
-        final int key;
-        final int moment;
-        final long value;
-        final Node clauses;
-        final Told before;
+    /** What was told, or a FACT: it counts from its moment on. */
+    private static final class Entry {
+        int act;
+        /** The INSURER, PLACE or YEAR that it is told of; the kind, ground, INSURER or ITEM of a FACT. */
+        int which;
+        int moment;
+        /** The cents, or the number that was told. */
+        long value;
+        Node clauses;
+        Entry before;
+        // FACTS alone have these:
+        int day;
+        int what;
+        int from;
+        /** What of it was PAID of INTEREST. */
+        long interest;
 
-        Told(int key, int moment, long value, Node clauses, Told before) {
-            this.key = key;
-            this.moment = moment;
-            this.value = value;
-            this.clauses = clauses;
-            this.before = before;
-        }
-
-        static Told known(Told last, int key, int moment) {
-            for (Told told = last; told != null; told = told.before) {
-                if (told.key == key && told.moment <= moment) {
-                    return told;
+        /** The last one of that act that is known; last is where the chain begins. */
+        static Entry known(Entry last, int act, int which, int moment) {
+            for (Entry entry = last; entry != null; entry = entry.before) {
+                if (entry.act == act && entry.which == which && entry.moment <= moment) {
+                    return entry;
                 }
             }
             return null;
         }
+
+        boolean counts(int asked, int known, int lastDay) {
+            return act == asked && moment <= known && day <= lastDay;
+        }
     }
 
     private static final class Policy {
-        /** Keys of what is told: PLACES have their own numbers, SUMS their YEAR more than this. */
-        static final int SUM = 10, RULE = 50, CLAUSES = 51;
-
-        final int number;
-        final int kind;
-        final int first;
-        final int last;
-        Told told;
-
-        Policy(int number, int kind, int first, int last) {
-            this.number = number;
-            this.kind = kind;
-            this.first = first;
-            this.last = last;
-        }
+        int number;
+        int kind;
+        int first;
+        int last;
+        /** What was told of it, the last one first. */
+        Entry told;
+        /** The next one in the stock. */
+        Policy idle;
 
         Node clausesAt(int moment) {
-            Told last = Told.known(told, CLAUSES, moment);
+            Entry last = Entry.known(told, ACT_CLAUSES, 0, moment);
             return last == null ? null : last.clauses;
         }
 
@@ -620,24 +626,18 @@ public final class ClaimsOffice {
     }
 
     private static final class Loss {
-        final int number;
-        final int kind;
-        final int day;
-        final Loss whole;
-        final int hundredths;
+        int number;
+        int kind;
+        int day;
+        Loss whole;
+        int hundredths;
         final int[] sorts = new int[MOST_ITEMS];
-        /** AMOUNT and VALUE of each ITEM, one behind the other. */
+        /** AMOUNT and VALUE of each ITEM, one behind the other; 0 where there is none. */
         final long[] money = new long[2 * MOST_ITEMS];
         int items;
         boolean notified;
-
-        Loss(int number, int kind, int day, Loss whole, int hundredths) {
-            this.number = number;
-            this.kind = kind;
-            this.day = day;
-            this.whole = whole;
-            this.hundredths = hundredths;
-        }
+        /** The next one in the stock. */
+        Loss idle;
 
         /** The LOSS that has the ITEMS. */
         Loss base() {
@@ -659,54 +659,22 @@ public final class ClaimsOffice {
         }
     }
 
-    private static final class Fact {
-        final int act;
-        final int day;
-        final int moment;
-        /** The kind, ground, INSURER or ITEM. */
-        final int which;
-        final int what;
-        final int from;
-        final long cents;
-        /** What of it was PAID of INTEREST. */
-        final long interest;
-
-        Fact(long[] deeds, int at, int moment, long cents, long interest) {
-            act = (int) deeds[at];
-            day = (int) deeds[at + 2];
-            which = (int) deeds[at + 3];
-            what = (int) deeds[at + 4];
-            from = (int) deeds[at + 6];
-            this.moment = moment;
-            this.cents = cents;
-            this.interest = interest;
-        }
-    }
-
     private static final class Case {
-        final int number;
-        final Policy policy;
-        final int place;
-        final Loss loss;
-        final int notice;
-        final int moment;
-        final Fact[] facts = new Fact[MOST_FACTS];
+        Policy policy;
+        int place;
+        Loss loss;
+        int notice;
+        int moment;
+        /** Its FACTS, the last one first. */
+        Entry facts;
         int size;
+        /** The next one in the stock. */
+        Case idle;
 
-        Case(int number, Policy policy, int place, Loss loss, int notice, int moment) {
-            this.number = number;
-            this.policy = policy;
-            this.place = place;
-            this.loss = loss;
-            this.notice = notice;
-            this.moment = moment;
-        }
-
-        /** The last FACT of an act that is known and not behind a day; null if there is none. */
-        Fact lastFact(int act, int known, int day) {
-            for (int i = size - 1; i >= 0; i--) {
-                Fact fact = facts[i];
-                if (fact.act == act && fact.moment <= known && fact.day <= day) {
+        /** The last FACT of an act that is known; null if there is none. */
+        Entry lastFact(int act, int known, int day) {
+            for (Entry fact = facts; fact != null; fact = fact.before) {
+                if (fact.counts(act, known, day)) {
                     return fact;
                 }
             }
@@ -714,21 +682,20 @@ public final class ClaimsOffice {
         }
 
         boolean isOpen(int known, int day) {
-            Fact closed = lastFact(ACT_CLOSE, known, day);
-            Fact reopened = lastFact(ACT_REOPEN, known, day);
+            Entry closed = lastFact(ACT_CLOSE, known, day);
+            Entry reopened = lastFact(ACT_REOPEN, known, day);
             return closed == null || reopened != null && reopened.moment > closed.moment;
         }
 
         int earliestDay() {
-            return size == 0 ? notice : facts[size - 1].day;
+            return facts == null ? notice : facts.day;
         }
 
         long sumOf(int act, int known, int day) {
             long sum = 0;
-            for (int i = 0; i < size; i++) {
-                Fact fact = facts[i];
+            for (Entry fact = facts; fact != null; fact = fact.before) {
                 if (fact.act == act && fact.moment <= known && fact.day <= day) {
-                    sum += fact.cents;
+                    sum += fact.value;
                 }
             }
             return sum;
@@ -736,10 +703,8 @@ public final class ClaimsOffice {
 
         long paidOfInterest(int known) {
             long sum = 0;
-            for (int i = 0; i < size; i++) {
-                if (facts[i].moment <= known) {
-                    sum += facts[i].interest;
-                }
+            for (Entry fact = facts; fact != null; fact = fact.before) {
+                sum += fact.moment <= known ? fact.interest : 0;
             }
             return sum;
         }
@@ -747,6 +712,94 @@ public final class ClaimsOffice {
         /** What was PAID of s, without that of INTEREST. */
         long paidOfWorth(int known) {
             return sumOf(ACT_PAY, known, LAST_DAY) - paidOfInterest(known);
+        }
+    }
+
+    /** What nobody uses any more: it is used again, so that a run makes no more than it has in use at once. */
+    private static final class Stock {
+        private Entry entries;
+        private Policy policies;
+        private Loss losses;
+        private Case cases;
+
+        Entry drawEntry(int act, int which, int moment, long value, Node clauses, Entry before) {
+            Entry drawn = entries == null ? new Entry() : entries;
+            entries = drawn.before;
+            drawn.act = act;
+            drawn.which = which;
+            drawn.moment = moment;
+            drawn.value = value;
+            drawn.clauses = clauses;
+            drawn.before = before;
+            return drawn;
+        }
+
+        void putBack(Entry entry) {
+            entry.before = entries;
+            entries = entry;
+        }
+
+        void putBackAll(Entry last) {
+            Entry before;
+            for (Entry entry = last; entry != null; entry = before) {
+                before = entry.before;
+                putBack(entry);
+            }
+        }
+
+        Policy drawPolicy(int number, int kind, int first, int last) {
+            Policy drawn = policies == null ? new Policy() : policies;
+            policies = drawn.idle;
+            drawn.number = number;
+            drawn.kind = kind;
+            drawn.first = first;
+            drawn.last = last;
+            drawn.told = null;
+            return drawn;
+        }
+
+        void putBackPolicy(Policy policy) {
+            putBackAll(policy.told);
+            policy.idle = policies;
+            policies = policy;
+        }
+
+        Loss drawLoss(int number, int kind, int day, Loss whole, int hundredths) {
+            Loss drawn = losses == null ? new Loss() : losses;
+            losses = drawn.idle;
+            drawn.number = number;
+            drawn.kind = kind;
+            drawn.day = day;
+            drawn.whole = whole;
+            drawn.hundredths = hundredths;
+            drawn.items = 0;
+            drawn.notified = false;
+            Arrays.fill(drawn.money, 0);
+            return drawn;
+        }
+
+        void putBackLoss(Loss loss) {
+            loss.idle = losses;
+            losses = loss;
+        }
+
+        Case drawCase(Policy policy, int place, Loss loss, int notice, int moment) {
+            Case drawn = cases == null ? new Case() : cases;
+            cases = drawn.idle;
+            drawn.policy = policy;
+            drawn.place = place;
+            drawn.loss = loss;
+            drawn.notice = notice;
+            drawn.moment = moment;
+            drawn.facts = null;
+            drawn.size = 0;
+            return drawn;
+        }
+
+        void putBackCase(Case theCase) {
+            putBackAll(theCase.facts);
+            theCase.idle = cases;
+            cases = theCase;
         }
     }
 
@@ -759,6 +812,7 @@ public final class ClaimsOffice {
 
         final Working working;
         final Reader reader;
+        final Stock stock;
         final Bytes log = new Bytes();
         final Policy[] policies = new Policy[MOST_POLICIES];
         final Loss[] losses = new Loss[MOST_LOSSES];
@@ -766,7 +820,7 @@ public final class ClaimsOffice {
         final int[] tellings = new int[MOST_TOLD.length];
         final long[] held = new long[MOST_HELD * DEED];
         final int[] queue = new int[MOST_POLICIES];
-        Told ranks;
+        Entry ranks;
         int persons;
         int policyCount;
         int lossCount;
@@ -777,9 +831,43 @@ public final class ClaimsOffice {
         int heldCount;
         boolean underWay;
 
-        Book(Working working, Reader reader) {
+        Book(Working working, Reader reader, Stock stock) {
             this.working = working;
             this.reader = reader;
+            this.stock = stock;
+        }
+
+        /** As a new one is; all that it had goes back. */
+        void clear() {
+            giveBack();
+            ranks = null;
+            persons = 0;
+            policyCount = 0;
+            lossCount = 0;
+            caseCount = 0;
+            now = 0;
+            batches = 0;
+            tries = 0;
+            heldCount = 0;
+            underWay = false;
+            log.clear();
+            Arrays.fill(tellings, 0);
+        }
+
+        private void giveBack() {
+            stock.putBackAll(ranks);
+            for (int i = 0; i < caseCount; i++) {
+                stock.putBackCase(cases[i]);
+            }
+            for (int i = 0; i < lossCount; i++) {
+                stock.putBackLoss(losses[i]);
+            }
+            for (int i = 0; i < policyCount; i++) {
+                for (Entry told = policies[i].told; told != null; told = told.before) {
+                    reader.putBack(told.clauses);
+                }
+                stock.putBackPolicy(policies[i]);
+            }
         }
 
         Policy policyAt(long number) {
@@ -890,12 +978,11 @@ public final class ClaimsOffice {
         private void forgetBehind(int moment) {
             for (int i = 0; i < caseCount; i++) {
                 Case at = cases[i];
-                for (int step = 0; step < MOST_FACTS && at.size > 0; step++) {
-                    if (at.facts[at.size - 1].moment <= moment) {
-                        break;
-                    }
+                for (int step = 0; step < MOST_FACTS && at.facts != null && at.facts.moment > moment; step++) {
+                    Entry last = at.facts;
+                    at.facts = last.before;
                     at.size--;
-                    at.facts[at.size] = null;
+                    stock.putBack(last);
                 }
             }
         }
@@ -918,7 +1005,7 @@ public final class ClaimsOffice {
                 return FULL;
             }
             tellings[ACT_RANK]++;
-            ranks = new Told((int) deed[1], now + 1, deed[2], null, ranks);
+            ranks = stock.drawEntry(ACT_RANK, (int) deed[1], now + 1, deed[2], null, ranks);
             return 1;
         }
 
@@ -934,7 +1021,7 @@ public final class ClaimsOffice {
             if (policyCount >= MOST_POLICIES) {
                 return FULL;
             }
-            policies[policyCount] = new Policy(policyCount, (int) deed[1], (int) deed[3], (int) deed[4]);
+            policies[policyCount] = stock.drawPolicy(policyCount, (int) deed[1], (int) deed[3], (int) deed[4]);
             policyCount++;
             return policyCount - 1;
         }
@@ -952,12 +1039,12 @@ public final class ClaimsOffice {
             return tellPolicy(ACT_BUNDLE, bundle, (int) deed[2], deed[3], null);
         }
 
-        private int tellPolicy(int act, Policy policy, int key, long value, Node clauses) {
+        private int tellPolicy(int act, Policy policy, int which, long value, Node clauses) {
             if (isToldOut(act)) {
                 return FULL;
             }
             tellings[act]++;
-            policy.told = new Told(key, now + 1, value, clauses, policy.told);
+            policy.told = stock.drawEntry(act, which, now + 1, value, clauses, policy.told);
             return 1;
         }
 
@@ -971,7 +1058,7 @@ public final class ClaimsOffice {
                     return true;
                 }
                 for (int place = 0; place < PLACES && at.kind == BUNDLE; place++) {
-                    Told told = Told.known(at.told, place, now);
+                    Entry told = Entry.known(at.told, ACT_BUNDLE, place, now);
                     Policy part = told == null ? null : policyAt(told.value);
                     boolean waits = part == null;
                     for (int k = 0; k < waiting && !waits; k++) {
@@ -992,7 +1079,7 @@ public final class ClaimsOffice {
             if (policy == null || policy.kind == BUNDLE || !policy.hasYear(year) || !isMoney(deed[3])) {
                 return BAD;
             }
-            return tellPolicy(ACT_PERIOD, policy, Policy.SUM + year, deed[3], null);
+            return tellPolicy(ACT_PERIOD, policy, year, deed[3], null);
         }
 
         private int tellClauses(long[] deed, Bytes text) {
@@ -1007,7 +1094,7 @@ public final class ClaimsOffice {
             if (reader.fault != NONE) {
                 return -10 - reader.fault;
             }
-            tellPolicy(ACT_CLAUSES, policy, Policy.CLAUSES, 0, clauses);
+            tellPolicy(ACT_CLAUSES, policy, 0, 0, clauses);
             return reader.clauses;
         }
 
@@ -1016,7 +1103,7 @@ public final class ClaimsOffice {
             if (policy == null || policy.kind == BUNDLE || deed[2] < 0 || deed[2] > 2) {
                 return BAD;
             }
-            return tellPolicy(ACT_RULE, policy, Policy.RULE, deed[2], null);
+            return tellPolicy(ACT_RULE, policy, 0, deed[2], null);
         }
 
         private int makeLoss(long[] deed) {
@@ -1041,7 +1128,7 @@ public final class ClaimsOffice {
             if (lossCount >= MOST_LOSSES) {
                 return FULL;
             }
-            losses[lossCount] = new Loss(lossCount, kind, day, whole, hundredths);
+            losses[lossCount] = stock.drawLoss(lossCount, kind, day, whole, hundredths);
             lossCount++;
             return lossCount - 1;
         }
@@ -1084,7 +1171,7 @@ public final class ClaimsOffice {
                 return FULL;
             }
             loss.base().notified = true;
-            cases[caseCount] = new Case(caseCount, policy, (int) deed[2], loss, day, now + 1);
+            cases[caseCount] = stock.drawCase(policy, (int) deed[2], loss, day, now + 1);
             caseCount++;
             return caseCount - 1;
         }
@@ -1127,7 +1214,12 @@ public final class ClaimsOffice {
                 return FULL;
             }
             now++;
-            theCase.facts[theCase.size] = new Fact(deeds, at, now, cents, interest);
+            Entry fact = stock.drawEntry(act, (int) deeds[at + 3], now, cents, null, theCase.facts);
+            fact.day = day;
+            fact.what = (int) deeds[at + 4];
+            fact.from = (int) deeds[at + 6];
+            fact.interest = interest;
+            theCase.facts = fact;
             theCase.size++;
             return 1;
         }
@@ -1161,7 +1253,7 @@ public final class ClaimsOffice {
         }
 
         private boolean isLate(Case theCase, int day, int ground) {
-            Fact closed = theCase.lastFact(ACT_CLOSE, now, LAST_DAY);
+            Entry closed = theCase.lastFact(ACT_CLOSE, now, LAST_DAY);
             int behind = closed == null ? 0 : day - closed.day;
             return ground == 0 && behind > 30 || ground == 1 && behind > 365;
         }
@@ -1192,7 +1284,7 @@ public final class ClaimsOffice {
             Policy cover = theCase.policy;
             int place = theCase.place;
             for (int step = 0; step < MOST_POLICIES && cover != null && cover.kind == BUNDLE; step++) {
-                Told told = Told.known(cover.told, place, moment);
+                Entry told = Entry.known(cover.told, ACT_BUNDLE, place, moment);
                 cover = told == null ? null : policyAt(told.value);
                 place = 0;
             }
@@ -1200,7 +1292,7 @@ public final class ClaimsOffice {
         }
 
         int rankOf(int insurer, int moment) {
-            Told told = Told.known(ranks, insurer, moment);
+            Entry told = Entry.known(ranks, ACT_RANK, insurer, moment);
             return told == null ? insurer : (int) told.value;
         }
 
@@ -1224,21 +1316,12 @@ public final class ClaimsOffice {
             for (int i = 0; i < caseCount; i++) {
                 Case at = cases[i];
                 boolean counts = at.moment <= moment && at.loss.day / DAYS_OF_YEAR == year;
-                if (counts && at.isOpen(moment, LAST_DAY)) {
-                    sum += lastReserve(at, kind, moment);
+                Entry last = Entry.known(at.facts, ACT_RESERVE, kind, moment);
+                if (counts && last != null && at.isOpen(moment, LAST_DAY)) {
+                    sum += last.value;
                 }
             }
             return sum;
-        }
-
-        private static long lastReserve(Case theCase, int kind, int moment) {
-            for (int i = theCase.size - 1; i >= 0; i--) {
-                Fact fact = theCase.facts[i];
-                if (fact.act == ACT_RESERVE && fact.which == kind && fact.moment <= moment) {
-                    return fact.cents;
-                }
-            }
-            return 0;
         }
 
         /** What was PAID in these rows of RUNS, in the columns up to that one. */
@@ -1270,17 +1353,13 @@ public final class ClaimsOffice {
         static final String NAMES =
                 "in      out     item    loss    year    own     wait    average interestby      notice  unless  or      and     not     amount  items   late    sort    is      fire    water   theft   storm   third   any     ";
 
-        final int op;
+        int op;
         /** Its NUMBER, or the word of a KIND. */
-        final int number;
-        final Node first;
+        int number;
+        Node first;
         Node next;
-
-        Node(int op, int number, Node first) {
-            this.op = op;
-            this.number = number;
-            this.first = first;
-        }
+        /** The one that was made behind it for the same text; the next one that no text has. */
+        Node made;
 
         static Node lastOf(Node clauses, int op) {
             Node last = null;
@@ -1387,25 +1466,60 @@ public final class ClaimsOffice {
         int at;
         int clauses;
         int fault;
+        /** Nodes that no text has, and those of the text that is read. */
+        private Node idle;
+        private Node firstMade;
+        private Node lastMade;
 
+        /** The first clause is the first node that is made: it has all others of its text behind it. */
         Node read(Bytes text) {
             scan(text);
             at = 0;
             clauses = 0;
             fault = NONE;
-            Node first = null;
+            firstMade = null;
+            lastMade = null;
             Node last = null;
             for (int n = 0; n <= MOST_CLAUSES && fault == NONE && tokens[at] != END_OF_TEXT; n++) {
                 Node clause = n < MOST_CLAUSES ? readClause() : fail();
-                if (last == null) {
-                    first = clause;
-                } else {
+                if (last != null) {
                     last.next = clause;
                 }
                 last = clause;
                 clauses++;
             }
-            return first;
+            if (fault != NONE) {
+                putBack(firstMade);
+                return null;
+            }
+            return firstMade;
+        }
+
+        private Node makeNode(int op, int number, Node first) {
+            Node node = idle == null ? new Node() : idle;
+            idle = node.made;
+            node.made = null;
+            node.op = op;
+            node.number = number;
+            node.first = first;
+            node.next = null;
+            if (lastMade == null) {
+                firstMade = node;
+            } else {
+                lastMade.made = node;
+            }
+            lastMade = node;
+            return node;
+        }
+
+        /** Takes back all nodes of a text. */
+        void putBack(Node first) {
+            Node behind;
+            for (Node node = first; node != null; node = behind) {
+                behind = node.made;
+                node.made = idle;
+                idle = node;
+            }
         }
 
         /** A tenth digit begins a NUMBER of its own, which never goes on behind another: so the FAULT is there. */
@@ -1485,7 +1599,7 @@ public final class ClaimsOffice {
 
         private Node readClause() {
             int word = tokens[at];
-            Node unless = null;
+            Node clause = makeNode(word, 0, null);
             int number = 0;
             switch (word) {
                 case Node.IN:
@@ -1494,7 +1608,7 @@ public final class ClaimsOffice {
                     number = tokens[at];
                     if (take(Node.FIRST_KIND, Node.ANY) && tokens[at] == Node.UNLESS) {
                         at++;
-                        unless = readOr(0);
+                        clause.first = readOr(0);
                     }
                     break;
                 case Node.ITEM:
@@ -1525,7 +1639,9 @@ public final class ClaimsOffice {
                     return fail();
             }
             take(STOP, STOP);
-            return new Node(word, number, unless);
+            clause.op = word;
+            clause.number = number;
+            return clause;
         }
 
         private Node readOr(int open) {
@@ -1539,7 +1655,7 @@ public final class ClaimsOffice {
                 last.next = readAnd(open);
                 last = last.next;
             }
-            return new Node(Node.OR, 0, first);
+            return makeNode(Node.OR, 0, first);
         }
 
         private Node readAnd(int open) {
@@ -1553,35 +1669,31 @@ public final class ClaimsOffice {
                 last.next = readNot(open);
                 last = last.next;
             }
-            return new Node(Node.AND, 0, first);
+            return makeNode(Node.AND, 0, first);
         }
 
         /** open: how many not and ( are open already. */
         private Node readNot(int open) {
-            int token = tokens[at];
-            if (token != Node.NOT && token != OPEN) {
-                return readTest();
-            }
-            if (open >= MOST_OPEN) {
+            int word = tokens[at];
+            if ((word == Node.NOT || word == OPEN) && open >= MOST_OPEN) {
                 return fail();
             }
-            at++;
-            if (token == Node.NOT) {
+            if (word == Node.NOT) {
+                at++;
                 Node denied = readNot(open + 1);
-                return denied == null ? null : new Node(Node.NOT, 0, denied);
+                return denied == null ? null : makeNode(word, 0, denied);
             }
-            Node within = readOr(open + 1);
-            return take(SHUT, SHUT) ? within : null;
-        }
-
-        private Node readTest() {
-            int word = tokens[at];
+            if (word == OPEN) {
+                at++;
+                Node within = readOr(open + 1);
+                return take(SHUT, SHUT) ? within : null;
+            }
             if (!take(Node.AMOUNT, Node.IS)) {
                 return null;
             }
             int number = word == Node.IS ? tokens[at] : numbers[at];
             boolean ends = word == Node.IS ? take(Node.FIRST_KIND, Node.ANY) : take(NUMBER, NUMBER);
-            return ends ? new Node(word, number, null) : null;
+            return ends ? makeNode(word, number, null) : null;
         }
     }
 
@@ -1784,7 +1896,7 @@ public final class ClaimsOffice {
                 view.fail(OUTSIDE);
                 return;
             }
-            Told told = Told.known(cover.told, Policy.SUM + year, moment);
+            Entry told = Entry.known(cover.told, ACT_PERIOD, year, moment);
             if (told == null) {
                 view.fail(NOTHING);
                 return;
@@ -1800,12 +1912,11 @@ public final class ClaimsOffice {
                 money[k] = base.money[k];
                 since[k] = NONE;
             }
-            for (int i = 0; i < theCase.size; i++) {
-                Fact fact = theCase.facts[i];
-                boolean counts = fact.act == ACT_CORRECT && fact.moment <= moment && fact.day <= day;
-                int k = 2 * fact.which + fact.what;
-                if (counts && fact.from <= day && k >= 0 && k < money.length && fact.from >= since[k]) {
-                    money[k] = fact.cents;
+            for (Entry fact = theCase.facts; fact != null; fact = fact.before) {
+                boolean counts = fact.counts(ACT_CORRECT, moment, day) && fact.from <= day;
+                int k = counts ? 2 * fact.which + fact.what : NONE;
+                if (k >= 0 && k < money.length && fact.from > since[k]) {
+                    money[k] = fact.value;
                     since[k] = fact.from;
                 }
             }
@@ -1985,19 +2096,17 @@ public final class ClaimsOffice {
         /** What of s was not PAID, summed over the days; it stays the same from one payment to the next. */
         private long centsByDays() {
             long total = 0;
-            long paid = 0;
-            int from = theCase.notice;
-            for (int i = 0; i < theCase.size; i++) {
-                Fact fact = theCase.facts[i];
-                if (fact.act != ACT_PAY || fact.moment > moment) {
-                    continue;
+            long paid = theCase.paidOfWorth(moment);
+            int until = day;
+            for (Entry fact = theCase.facts; fact != null; fact = fact.before) {
+                if (fact.counts(ACT_PAY, moment, LAST_DAY)) {
+                    int from = Math.min(fact.day + 1, until);
+                    total += (until - from) * Math.max(s - paid, 0);
+                    until = from;
+                    paid -= fact.value - fact.interest;
                 }
-                int until = Math.max(from, Math.min(fact.day + 1, day));
-                total += (until - from) * Math.max(s - paid, 0);
-                from = until;
-                paid += fact.cents - fact.interest;
             }
-            return total + Math.max(day - from, 0) * Math.max(s - paid, 0);
+            return total + (until - theCase.notice) * Math.max(s - paid, 0);
         }
 
         // ---- cases that are laid
@@ -2037,7 +2146,7 @@ public final class ClaimsOffice {
                 all += alone[turns[k]];
             }
             long whole = Math.min(worth, all);
-            Told rule = Told.known(cover.told, Policy.RULE, moment);
+            Entry rule = Entry.known(cover.told, ACT_RULE, 0, moment);
             int number = rule == null ? 0 : (int) rule.value;
             if (number == 0) {
                 shareByAlone(whole, all, others + 1);
@@ -2056,11 +2165,10 @@ public final class ClaimsOffice {
             Arrays.fill(alone, NONE);
             Arrays.fill(shares, 0);
             alone[0] = s;
-            for (int i = 0; i < theCase.size; i++) {
-                Fact fact = theCase.facts[i];
-                boolean counts = fact.act == ACT_SHARE && fact.moment <= moment && fact.day <= day;
-                if (counts && fact.which > 0 && fact.which < INSURERS) {
-                    alone[fact.which] = fact.cents;
+            for (Entry fact = theCase.facts; fact != null; fact = fact.before) {
+                int insurer = fact.counts(ACT_SHARE, moment, day) ? fact.which : NONE;
+                if (insurer > 0 && insurer < INSURERS && alone[insurer] == NONE) {
+                    alone[insurer] = fact.value;
                 }
             }
             int sharing = 0;

@@ -7,6 +7,8 @@ import java.util.Random;
 public final class FuzzTest {
     private static final int RUNS = 1500;
     private static final Check check = new Check();
+    /** What earlier runs wrote: a run takes some of these in, too. */
+    private static final List<String> LOGS = new ArrayList<>();
 
     private final Random random;
     private final ClaimsOffice office = new ClaimsOffice();
@@ -318,8 +320,9 @@ public final class FuzzTest {
                 call("left", p.number, y, now);
             }
         }
-        call("write");
-        readAll();
+        if (call("write") >= 0) {
+            LOGS.add(readAll());
+        }
     }
 
     // ---- texts of clauses
@@ -429,8 +432,9 @@ public final class FuzzTest {
         if (call("write") < 0) {
             return;
         }
-        StringBuilder b = new StringBuilder(readAll());
-        if (b.length() > 1200) {
+        boolean others = pick(2) == 0 && !LOGS.isEmpty();
+        StringBuilder b = new StringBuilder(others ? LOGS.get(pick(LOGS.size())) : readAll());
+        if (b.length() > (others ? 3000 : 1200)) {
             return;
         }
         int changes = pick(3) == 0 ? 1 + pick(2) : 0;
