@@ -29,7 +29,7 @@ public final class FactsTest {
 
     private static void reserves() {
         Desk d = car();
-        ClaimsOffice o = d.office;
+        Office o = d.office;
         int c = d.claim(0, 100, 1000, 1000);
         d.due("14 no case", o.reserve(1, 100, 0, 5), BAD);
         d.due("14 no case", o.reserve(-1, 100, 0, 5), BAD);
@@ -52,7 +52,7 @@ public final class FactsTest {
 
     private static void fortyFacts() {
         Desk d = car();
-        ClaimsOffice o = d.office;
+        Office o = d.office;
         int c = d.claim(0, 100, 1000, 1000);
         for (int i = 0; i < 40; i++) {
             d.due("14 fact", o.reserve(c, 100 + i, 0, i), 1);
@@ -69,7 +69,7 @@ public final class FactsTest {
 
     private static void payments() {
         Desk d = car();
-        ClaimsOffice o = d.office;
+        Office o = d.office;
         int c = d.claim(0, 100, 1000, 1000);
         d.due("15 no case", o.pay(7, 100, 5), BAD);
         d.due("15 no day", o.pay(c, 10950, 5), BAD);
@@ -98,7 +98,7 @@ public final class FactsTest {
     private static void paymentsOfInterest() {
         // 36500 cents at 1000 of 10000 a year: 10 cents a day
         Desk d = car();
-        ClaimsOffice o = d.office;
+        Office o = d.office;
         d.clauses(0, "interest 1000; year 40000;");
         int c = d.claim(0, 0, 36500, 36500);
         d.dueRows(c, 10, "36600 f0 | 0 0 36500 | 11 0 100");
@@ -125,7 +125,7 @@ public final class FactsTest {
 
     private static void paymentsWithinTheYear() {
         Desk d = car();
-        ClaimsOffice o = d.office;
+        Office o = d.office;
         d.clauses(0, "year 1000;");
         int first = d.claim(0, 50, 800, 800);
         int second = d.claim(0, 40 + 10, 700, 700);
@@ -165,7 +165,7 @@ public final class FactsTest {
 
     private static void closings() {
         Desk d = car();
-        ClaimsOffice o = d.office;
+        Office o = d.office;
         int c = d.claim(0, 100, 1000, 1000);
         d.due("16 open at first", o.of(c, 4), 1);
         d.due("16 no case", o.close(LOWEST, 100), BAD);
@@ -183,7 +183,7 @@ public final class FactsTest {
 
     private static void reopenings() {
         Desk d = car();
-        ClaimsOffice o = d.office;
+        Office o = d.office;
         int c = d.claim(0, 100, 1000, 1000);
         d.due("17 open", o.reopen(c, 100, 2), STATE);
         d.due("17 ground", o.reopen(c, 100, 3), BAD);
@@ -203,7 +203,7 @@ public final class FactsTest {
 
     private static void corrections() {
         Desk d = Desk.with(check, 2, 0);
-        ClaimsOffice o = d.office;
+        Office o = d.office;
         o.loss(0, 100);
         o.item(0, 0, 1000, 1000);
         o.item(0, 0, 500, 400);
@@ -240,7 +240,7 @@ public final class FactsTest {
 
     private static void sharings() {
         Desk d = car();
-        ClaimsOffice o = d.office;
+        Office o = d.office;
         int c = d.claim(0, 100, 1000, 1000);
         d.due("19 this office", o.share(c, 100, 0, 5), BAD);
         d.due("19 no insurer", o.share(c, 100, 6, 5), BAD);
@@ -258,7 +258,7 @@ public final class FactsTest {
 
     private static void salvages() {
         Desk d = car();
-        ClaimsOffice o = d.office;
+        Office o = d.office;
         int c = d.claim(0, 100, 1000, 1000);
         d.due("20 cents", o.salvage(c, 100, -1), BAD);
         d.due("20 cents", o.salvage(c, 100, MOST + 1), BAD);
@@ -275,7 +275,7 @@ public final class FactsTest {
 
     private static void recourses() {
         Desk d = car();
-        ClaimsOffice o = d.office;
+        Office o = d.office;
         int c = d.claim(0, 100, 1000, 1000);
         d.due("21 cents", o.recourse(c, 100, -1), BAD);
         d.due("21 cents", o.recourse(c, 100, MOST + 1), BAD);
@@ -301,7 +301,7 @@ public final class FactsTest {
 
     private static void batches() {
         Desk d = car();
-        ClaimsOffice o = d.office;
+        Office o = d.office;
         int c = d.claim(0, 100, 1000, 1000);
         long now = d.now();
         d.due("23 none is under way", o.end(), STATE);
@@ -340,7 +340,7 @@ public final class FactsTest {
 
     private static void undoneBatches() {
         Desk d = car();
-        ClaimsOffice o = d.office;
+        Office o = d.office;
         int c = d.claim(0, 100, 1000, 1000);
         int other = d.claim(0, 100, 500, 500);
         o.reserve(other, 100, 0, 9);
@@ -374,7 +374,7 @@ public final class FactsTest {
 
     private static void fullBatches() {
         Desk d = car();
-        ClaimsOffice o = d.office;
+        Office o = d.office;
         d.claim(0, 100, 1000, 1000);
         o.batch();
         for (int i = 0; i < 60; i++) {

@@ -31,7 +31,7 @@ public final class LogTest {
 
     private static void toldBack() {
         Desk d = new Desk(check);
-        ClaimsOffice o = d.office;
+        Office o = d.office;
         o.person();
         o.policy(0, 0, 0, 5);
         o.policy(6, 0, 0, 5);
@@ -40,23 +40,24 @@ public final class LogTest {
         d.due("31 above now", o.tell(0, 4), BAD);
         d.due("31 below 0", o.tell(0, -1), BAD);
         d.due("31 no clauses", o.tell(0, 3), 0);
-        told(d, "in  fire;out\nany ;", "in fire;\nout any;\n");
-        told(d, "item007;loss 0 ;year 000000000;own loss 1;own year 2;wait 3;average;interest 4;by notice;by loss;",
+        told("in  fire;out\nany ;", "in fire;\nout any;\n");
+        told("item007;loss 0 ;year 000000000;own loss 1;own year 2;wait 3;average;interest 4;by notice;by loss;",
                 "item 7;\nloss 0;\nyear 0;\nown loss 1;\nown year 2;\nwait 3;\naverage;\ninterest 4;\nby notice;\n"
                 + "by loss;\n");
-        cond(d, "amount1", "amount 1");
-        cond(d, "((is any))", "is any");
-        cond(d, "items 1 or(late 2 or sort 3)", "items 1 or late 2 or sort 3");
-        cond(d, "items 1 and(late 2 and sort 3)", "items 1 and late 2 and sort 3");
-        cond(d, "items 1 or (late 2 and sort 3)", "items 1 or late 2 and sort 3");
-        cond(d, "items 1 and (late 2 or sort 3)", "items 1 and (late 2 or sort 3)");
-        cond(d, "( ( items 1 or late 2 ) ) and sort 3", "(items 1 or late 2) and sort 3");
-        cond(d, "not(items 1)", "not items 1");
-        cond(d, "not(items 1 and late 2)", "not (items 1 and late 2)");
-        cond(d, "not((items 1 or late 2))", "not (items 1 or late 2)");
-        cond(d, "not(not(items 1))", "not not items 1");
-        cond(d, "(not items 1)and late 2", "not items 1 and late 2");
-        cond(d, "is third", "is third");
+        cond("amount1", "amount 1");
+        cond("((is any))", "is any");
+        cond("items 1 or(late 2 or sort 3)", "items 1 or late 2 or sort 3");
+        cond("items 1 and(late 2 and sort 3)", "items 1 and late 2 and sort 3");
+        cond("items 1 or (late 2 and sort 3)", "items 1 or late 2 and sort 3");
+        cond("items 1 and (late 2 or sort 3)", "items 1 and (late 2 or sort 3)");
+        cond("( ( items 1 or late 2 ) ) and sort 3", "(items 1 or late 2) and sort 3");
+        cond("not(items 1)", "not items 1");
+        cond("not(items 1 and late 2)", "not (items 1 and late 2)");
+        cond("not((items 1 or late 2))", "not (items 1 or late 2)");
+        cond("not(not(items 1))", "not not items 1");
+        cond("(not items 1)and late 2", "not items 1 and late 2");
+        cond("is third", "is third");
+        d.clauses(0, "in any unless is third;");
         int now = o.count(4);
         d.clauses(0, "");
         o.tell(0, now);
@@ -65,19 +66,22 @@ public final class LogTest {
         d.due("31 none at first", o.tell(0, 0), 0);
     }
 
-    private static void told(Desk d, String text, String want) {
+    private static void told(String text, String want) {
+        Desk d = new Desk(check);
+        d.office.person();
+        d.office.policy(0, 0, 0, 5);
         d.due("8 a text without fault: " + text, d.clauses(0, text) >= 0 ? 1 : 0, 1);
         d.due("31 length of " + text, d.office.tell(0, d.office.count(4)), want.length());
         d.due("31 " + text, d.said(), want);
     }
 
-    private static void cond(Desk d, String text, String want) {
-        told(d, "in any unless " + text + ";", "in any unless " + want + ";\n");
+    private static void cond(String text, String want) {
+        told("in any unless " + text + ";", "in any unless " + want + ";\n");
     }
 
     private static void letters() {
         Desk d = Desk.with(check, 2, 0);
-        ClaimsOffice o = d.office;
+        Office o = d.office;
         d.clauses(0, "average;");
         o.tell(0, o.count(4));
         d.due("32 letter", o.letter(0), 'a');
@@ -96,7 +100,7 @@ public final class LogTest {
 
     private static void usedAndLeft() {
         Desk d = Desk.with(check, 2, 0);
-        ClaimsOffice o = d.office;
+        Office o = d.office;
         o.policy(6, 0, 0, 5);
         int c = d.claim(0, 10, 500, 500);
         int later = d.claim(0, 365, 500, 500);
@@ -128,7 +132,7 @@ public final class LogTest {
 
     private static void usedByBundles() {
         Desk d = Desk.with(check, 2, 0);
-        ClaimsOffice o = d.office;
+        Office o = d.office;
         o.policy(6, 0, 0, 5);
         o.policy(2, 0, 0, 5);
         o.bundle(1, 3, 0);
@@ -146,7 +150,7 @@ public final class LogTest {
 
     private static void reserves() {
         Desk d = Desk.with(check, 2, 0);
-        ClaimsOffice o = d.office;
+        Office o = d.office;
         int a = d.claim(0, 10, 500, 500);
         int b = d.claim(0, 10, 500, 500);
         int later = d.claim(0, 365, 500, 500);
@@ -177,7 +181,7 @@ public final class LogTest {
     /** Cases of losses in the YEARS 0, 0 and 1, notified in 0, 1 and 1. */
     private static Desk paid() {
         Desk d = Desk.with(check, 2, 0);
-        ClaimsOffice o = d.office;
+        Office o = d.office;
         int[][] days = {{10, 20}, {364, 365}, {400, 400}};
         for (int i = 0; i < 3; i++) {
             o.loss(0, days[i][0]);
@@ -194,7 +198,7 @@ public final class LogTest {
 
     private static void runs() {
         Desk d = paid();
-        ClaimsOffice o = d.office;
+        Office o = d.office;
         int now = o.count(4);
         d.due("36 by", o.run(2, 0, 0, now), NO_ANSWER);
         d.due("36 by", o.run(-1, 0, 0, now), NO_ANSWER);
@@ -219,7 +223,7 @@ public final class LogTest {
 
     private static void factors() {
         Desk d = paid();
-        ClaimsOffice o = d.office;
+        Office o = d.office;
         int now = o.count(4);
         int[][] bad = {{2, 0, 0, 0, now}, {-1, 0, 0, 0, now}, {0, 30, 5, 0, now}, {0, -1, 5, 0, now},
             {0, 0, 30, 0, now}, {0, 0, -1, 0, now}, {0, 0, 5, 2, now}, {0, 0, 5, -1, now}, {0, 0, 5, 0, now + 1},
@@ -246,7 +250,7 @@ public final class LogTest {
 
     private static void written() {
         Desk d = new Desk(check);
-        ClaimsOffice o = d.office;
+        Office o = d.office;
         d.due("38 an empty log", o.write(), 4);
         d.due("38 its bytes", Desk.numbers(d.said()), "0 0 0 0");
         o.person();
@@ -259,7 +263,7 @@ public final class LogTest {
 
     private static void writtenNumbers() {
         Desk d = new Desk(check);
-        ClaimsOffice o = d.office;
+        Office o = d.office;
         o.person();
         o.policy(2, 0, 63, 10949);
         o.period(0, 0, 64);
@@ -279,7 +283,7 @@ public final class LogTest {
 
     private static void writtenBatches() {
         Desk d = Desk.with(check, 2, 0);
-        ClaimsOffice o = d.office;
+        Office o = d.office;
         d.claim(0, 5, 5, 5);
         o.write();
         String before = d.said().substring(0, o.count(9) - 4);
@@ -308,7 +312,7 @@ public final class LogTest {
 
     private static void takenIn() {
         Desk d = Desk.with(check, 2, 1000);
-        ClaimsOffice o = d.office;
+        Office o = d.office;
         d.clauses(0, "in any unless amount 90000; interest 77;");
         o.policy(6, 0, 0, 500);
         o.bundle(1, 2, 0);
@@ -336,7 +340,7 @@ public final class LogTest {
         String rows = d.rows(0, 60) + d.rows(1, 60);
 
         Desk other = new Desk(check);
-        ClaimsOffice n = other.office;
+        Office n = other.office;
         n.person();
         n.person();
         d.due("39 acts", other.takeIn(log), 29);
@@ -512,7 +516,7 @@ public final class LogTest {
 
     private static void ofACase() {
         Desk d = Desk.with(check, 2, 0);
-        ClaimsOffice o = d.office;
+        Office o = d.office;
         o.policy(6, 0, 0, 5);
         o.loss(0, 5);
         o.loss(0, 6);
@@ -534,7 +538,7 @@ public final class LogTest {
 
     private static void counts() {
         Desk d = Desk.with(check, 2, 0);
-        ClaimsOffice o = d.office;
+        Office o = d.office;
         d.claim(0, 5, 70, 70);
         d.claim(0, 3000, 70, 70);
         o.pay(1, 3000, 5);

@@ -35,7 +35,7 @@ public final class OwedTest {
 
     private static void asking() {
         Desk d = Desk.with(check, 2, 0);
-        ClaimsOffice o = d.office;
+        Office o = d.office;
         int c = d.claim(FIRE, 100, 50, 50);
         int now = (int) d.now();
         d.due("25 no case", o.owed(1, 100, now), NO_ANSWER);
@@ -54,7 +54,7 @@ public final class OwedTest {
 
     private static void looking() {
         Desk d = Desk.with(check, 2, 0);
-        ClaimsOffice o = d.office;
+        Office o = d.office;
         d.clauses(0, "own loss 5; loss 900;");
         int c = d.claim(THEFT, 100, 1234, 2000);
         o.pay(c, 100, 17);
@@ -144,7 +144,7 @@ public final class OwedTest {
         // WORTH: VALUE counts but with THIRD, n is the most for an ITEM, THEFT goes by whole hundreds
         Desk d = Desk.with(check, 2, 0);
         d.clauses(0, "item 777;");
-        ClaimsOffice o = d.office;
+        Office o = d.office;
         for (int kind : new int[] {FIRE, THEFT, THIRD}) {
             int loss = o.loss(kind, 20);
             o.item(loss, 0, 700, 500);
@@ -156,7 +156,7 @@ public final class OwedTest {
 
     private static void bodiesOfLiability() {
         Desk d = Desk.with(check, 3, 0);
-        ClaimsOffice o = d.office;
+        Office o = d.office;
         int c = d.claim(THIRD, 20, 200, 0);
         d.dueRows(c, 20, "200 f0 | 0 0 200");
         d.due("29 liability", d.trace(), "94 80 1 2 13");
@@ -173,7 +173,7 @@ public final class OwedTest {
 
     private static void bodiesOfParts() {
         Desk d = Desk.with(check, 2, 0);
-        ClaimsOffice o = d.office;
+        Office o = d.office;
         o.loss(THEFT, 20);
         o.item(0, 0, 1099, 1099);
         o.part(0, 33);
@@ -193,7 +193,7 @@ public final class OwedTest {
 
     private static void longTrace() {
         Desk d = Desk.with(check, 2, 0);
-        ClaimsOffice o = d.office;
+        Office o = d.office;
         o.loss(STORM, 20);
         o.item(0, 0, 5, 5);
         for (int i = 0; i < 4; i++) {
@@ -208,7 +208,7 @@ public final class OwedTest {
 
     private static void terms() {
         Desk d = new Desk(check);
-        ClaimsOffice o = d.office;
+        Office o = d.office;
         o.person();
         o.policy(2, 0, 400, 500);
         o.period(0, 1, 5);
@@ -250,7 +250,7 @@ public final class OwedTest {
 
     private static void conditions() {
         Desk d = Desk.with(check, 2, 0);
-        ClaimsOffice o = d.office;
+        Office o = d.office;
         o.loss(WATER, 20);
         o.item(0, 4, 300, 100);
         o.item(0, 7, 200, 100);
@@ -277,7 +277,7 @@ public final class OwedTest {
 
     private static void waits() {
         Desk d = new Desk(check);
-        ClaimsOffice o = d.office;
+        Office o = d.office;
         o.person();
         o.policy(1, 0, 100, 300);
         o.period(0, 0, 1000);
@@ -402,7 +402,7 @@ public final class OwedTest {
 
     private static void yearsByNotice() {
         Desk d = Desk.with(check, 2, 0);
-        ClaimsOffice o = d.office;
+        Office o = d.office;
         d.clauses(0, "own year 150; year 300;");
         int first = d.claim(FIRE, 20, 100, 100);
         int second = d.claim(FIRE, 20, 200, 200);
@@ -430,7 +430,7 @@ public final class OwedTest {
 
     private static void yearsByLoss() {
         Desk d = Desk.with(check, 2, 0);
-        ClaimsOffice o = d.office;
+        Office o = d.office;
         d.clauses(0, "year 250; by notice; by loss;");
         int[] days = {30, 20, 30, 10};
         for (int i = 0; i < 4; i++) {
@@ -462,7 +462,7 @@ public final class OwedTest {
 
     private static void othersWithFindings() {
         Desk d = Desk.with(check, 3, 0);
-        ClaimsOffice o = d.office;
+        Office o = d.office;
         int third = d.claim(THIRD, 20, 100, 100);
         int fire = d.claim(FIRE, 20, 100, 100);
         int none = o.notify(0, -1, o.loss(THIRD, 20), 20);
@@ -482,7 +482,7 @@ public final class OwedTest {
 
     private static void interest() {
         Desk d = Desk.with(check, 2, 0);
-        ClaimsOffice o = d.office;
+        Office o = d.office;
         d.clauses(0, "interest 9; interest 3650;");
         // a thousandth of s a day
         int c = d.claim(FIRE, 10, 1000, 1000);
@@ -500,7 +500,7 @@ public final class OwedTest {
 
     private static void findings() {
         Desk d = new Desk(check);
-        ClaimsOffice o = d.office;
+        Office o = d.office;
         o.person();
         o.policy(2, 0, 0, 800);
         int c = d.claim(FIRE, 10, 1000, 1000);
@@ -552,7 +552,7 @@ public final class OwedTest {
 
     private static void manyFindings() {
         Desk d = Desk.with(check, 3, 0);
-        ClaimsOffice o = d.office;
+        Office o = d.office;
         d.clauses(0, "year 5;");
         int third = d.claim(THIRD, 20, 100, 100);
         for (int i = 0; i < 99; i++) {

@@ -4,6 +4,8 @@ import java.lang.management.ManagementFactory;
 /** Rule 12 with promises 8 and 39: what is tried again and again makes nothing anew, and answers as at first. */
 public final class RoomTest {
     private static final int FULL = -7, TRIES = 40;
+    /** Calls of an office that is typed on for long, or looked at from all sides behind its tries. */
+    private static final int MANY = 20000;
     /** Bytes that the machine may make by itself as it compiles; tries that made offices anew would make far more. */
     private static final long LITTLE = 20000;
     private static final ThreadMXBean THREADS = (ThreadMXBean) ManagementFactory.getThreadMXBean();
@@ -83,7 +85,7 @@ public final class RoomTest {
     }
 
     /** Tries what is on THE TAPE 40 times; all but the first try make next to nothing. */
-    private static void tryAgain(String what, ClaimsOffice office, int want) {
+    private static void tryAgain(String what, Office office, int want) {
         int[] answers = new int[TRIES];
         answers[0] = office.takeIn();
         long before = made();
@@ -98,13 +100,13 @@ public final class RoomTest {
     }
 
     private static void manyThings() {
-        ClaimsOffice office = new ClaimsOffice();
+        Office office = new Office();
         String tape = things().bad();
         check.due("7 bytes", tape.length(), 3776);
         check.due("7 calls", Tape.type(office, tape), 472);
         tryAgain("many things", office, -3782);
 
-        ClaimsOffice other = new ClaimsOffice();
+        Office other = new Office();
         Tape.type(other, things().good());
         check.due("39 as it should be", other.takeIn(), things().acts);
         check.due("41 cases", other.count(3), 100);
@@ -116,7 +118,7 @@ public final class RoomTest {
         Tape tape = new Tape().add(1);
         repeat(tape, 100, 3, 6, 0, 0, 0);
         repeat(tape, 200, 4, 99, 0, 0);
-        ClaimsOffice office = new ClaimsOffice();
+        Office office = new Office();
         Tape.type(office, tape.bad());
         tryAgain("many policies", office, -10 - (tape.good().length() - 4));
     }
@@ -130,7 +132,7 @@ public final class RoomTest {
         for (int i = 0; i < 4; i++) {
             tape.addClauses(0, text + ";by loss;");
         }
-        ClaimsOffice office = new ClaimsOffice();
+        Office office = new Office();
         Tape.type(office, tape.bad());
         tryAgain("many words", office, -10 - (tape.good().length() - 4));
     }
@@ -138,28 +140,28 @@ public final class RoomTest {
     /** What an undone BATCH did is used again, within one try too. */
     private static void batchesUndone() {
         Tape tape = new Tape().add(1).add(3, 0, 0, 0, 5).add(8, 0, 0).add(11, 0, -1, 0, 0);
-        for (int batch = 0; batch < 20; batch++) {
+        for (int batch = 0; batch < 18; batch++) {
             repeat(tape.add(20), 39, 12, 0, 0, 0, 0);
             tape.add(14, 1, 0).add(21);
         }
-        ClaimsOffice office = new ClaimsOffice();
+        Office office = new Office();
         String bytes = tape.bad();
         Tape.type(office, bytes);
         long before = made();
         int first = office.takeIn();
         long inOne = made() - before;
-        // 40 FACTS, what a LOG of that length needs, and few things more: not the 800 FACTS that were undone
+        // 40 FACTS, what a LOG of that length needs, and few things more: not the 700 FACTS that were undone
         check.due("12 little is made by one try (" + inOne + ")", inOne <= 24000 ? 1 : 0, 1);
         check.due("39 the first try", first, -10 - (bytes.length() - 4));
 
-        ClaimsOffice again = new ClaimsOffice();
+        Office again = new Office();
         Tape.type(again, bytes);
         tryAgain("batches undone", again, first);
     }
 
     /** Offices of the same sort, turn about: two are in use, and no more are made. */
     private static void growing() {
-        ClaimsOffice office = new ClaimsOffice();
+        Office office = new Office();
         String good = office().good();
         int[] answers = new int[8];
         long before = 0;
@@ -177,7 +179,7 @@ public final class RoomTest {
     }
 
     private static void faultsOfTexts() {
-        ClaimsOffice office = new ClaimsOffice();
+        Office office = new Office();
         office.person();
         office.policy(0, 0, 0, 5);
         StringBuilder text = new StringBuilder("in any unless ");
@@ -204,12 +206,12 @@ public final class RoomTest {
 
     // ---- what is answered
 
-    private static String tell(ClaimsOffice office, int policy) {
+    private static String tell(Office office, int policy) {
         office.tell(policy, office.count(4));
         return said(office);
     }
 
-    private static String said(ClaimsOffice office) {
+    private static String said(Office office) {
         StringBuilder said = new StringBuilder();
         int b = office.letter(0);
         for (int i = 1; b >= 0; i++) {
@@ -220,21 +222,21 @@ public final class RoomTest {
     }
 
     /** Seven calls that look at what an office has and has met. */
-    private static String look(ClaimsOffice office) {
+    private static String look(Office office) {
         int now = office.count(4);
         return now + " " + office.owed(0, 70, now) + " " + office.say() + " " + office.used(0, 0, now) + " "
                 + office.reserved(2, 0, now) + " " + office.of(0, 5) + " " + office.tell(0, now);
     }
 
-    private static ClaimsOffice holding(String bytes) {
-        ClaimsOffice office = new ClaimsOffice();
+    private static Office holding(String bytes) {
+        Office office = new Office(MANY);
         Tape.type(office, bytes);
         office.takeIn();
         return office;
     }
 
     /** All that can be looked at, but FINDINGS and what THE TAPE has; too many calls for an office that goes on. */
-    private static String all(ClaimsOffice office) {
+    private static String all(Office office) {
         StringBuilder all = new StringBuilder();
         int now = office.count(4);
         for (int what = 0; what <= 7; what++) {
@@ -262,8 +264,8 @@ public final class RoomTest {
     }
 
     /** An office by acts, not by a TAPE. */
-    private static ClaimsOffice byActs() {
-        ClaimsOffice office = new ClaimsOffice();
+    private static Office byActs() {
+        Office office = new Office(MANY);
         office.person();
         office.policy(0, 0, 0, 400);
         office.period(0, 0, 9000);
@@ -284,7 +286,7 @@ public final class RoomTest {
     }
 
     private static void looksBehindEachTry() {
-        ClaimsOffice office = byActs();
+        Office office = byActs();
         String at = look(office);
         String tape = office().bad();
         Tape.type(office, tape);
@@ -301,7 +303,7 @@ public final class RoomTest {
         String log = logBehind(TRIES);
         check.due("39 in another office", all(holding(log)), all(byActs()));
 
-        ClaimsOffice office = byActs();
+        Office office = byActs();
         String at = look(office);
         Tape.type(office, otherOffice().bad());
         for (int i = 0; i < TRIES - 1; i++) {
@@ -320,7 +322,7 @@ public final class RoomTest {
 
     /** What is written behind so many tries: the same as ahead of them. */
     private static String logBehind(int tries) {
-        ClaimsOffice office = byActs();
+        Office office = byActs();
         office.write();
         String ahead = said(office);
         String tape = office().bad();
@@ -339,7 +341,7 @@ public final class RoomTest {
             new Tape().good(), new Tape().add(1).good(), new Tape().add(20).add(14, 0, 0).good()};
         for (int first = 0; first < tapes.length; first++) {
             for (int second = 0; second < tapes.length; second++) {
-                ClaimsOffice office = new ClaimsOffice();
+                Office office = new Office(MANY);
                 String held = new Tape().good();
                 for (int tape : new int[] {first, second, first, 0}) {
                     office.type(0, 0);
@@ -348,7 +350,7 @@ public final class RoomTest {
                     held = answer >= 0 ? tapes[tape] : held;
                     office.undo();
                 }
-                ClaimsOffice due = holding(held);
+                Office due = holding(held);
                 due.undo();
                 check.due("39 tapes " + first + ", " + second + " turn about", all(office), all(due));
             }
@@ -357,12 +359,12 @@ public final class RoomTest {
 
     /** Nothing of what was there before shows in what is made of it. */
     private static void smallBehindGreat() {
-        ClaimsOffice office = holding(office().good());
+        Office office = holding(office().good());
         office.type(0, 0);
         Tape.type(office, new Tape().good());
         check.due("39 nothing", office.takeIn(), 0);
-        ClaimsOffice fresh = new ClaimsOffice();
-        for (ClaimsOffice o : new ClaimsOffice[] {office, fresh}) {
+        Office fresh = new Office(MANY);
+        for (Office o : new Office[] {office, fresh}) {
             o.person();
             for (int p = 0; p < 3; p++) {
                 o.policy(p, 0, 0, 900);

@@ -28,7 +28,7 @@ public final class TellingTest {
     }
 
     private static void newObject() {
-        ClaimsOffice o = desk().office;
+        Office o = desk().office;
         for (int what = 0; what <= 10; what++) {
             check.due("1 count(" + what + ")", o.count(what), 0);
         }
@@ -42,7 +42,7 @@ public final class TellingTest {
     }
 
     private static void persons() {
-        ClaimsOffice o = desk().office;
+        Office o = desk().office;
         o.batch();
         check.due("2 person() in a batch", o.person(), STATE);
         o.undo();
@@ -55,7 +55,7 @@ public final class TellingTest {
     }
 
     private static void ranks() {
-        ClaimsOffice o = desk().office;
+        Office o = desk().office;
         check.due("3 rank(-1, 0)", o.rank(-1, 0), BAD);
         check.due("3 rank(6, 0)", o.rank(6, 0), BAD);
         check.due("3 rank(0, -1)", o.rank(0, -1), BAD);
@@ -82,7 +82,7 @@ public final class TellingTest {
     }
 
     private static void policies() {
-        ClaimsOffice o = desk().office;
+        Office o = desk().office;
         check.due("4 without a person", o.policy(0, 0, 0, 0), BAD);
         o.person();
         int[][] bad = {{-1, 0, 0, 1}, {7, 0, 0, 1}, {0, 1, 0, 1}, {0, -1, 0, 1}, {0, 0, -1, 1}, {0, 0, 1, 10950},
@@ -104,7 +104,7 @@ public final class TellingTest {
     }
 
     private static void bundles() {
-        ClaimsOffice o = desk().office;
+        Office o = desk().office;
         o.person();
         o.policy(6, 0, 0, 10);
         o.policy(6, 0, 0, 10);
@@ -157,7 +157,7 @@ public final class TellingTest {
     }
 
     private static void periods() {
-        ClaimsOffice o = desk().office;
+        Office o = desk().office;
         o.person();
         o.policy(0, 0, 364, 730);
         o.policy(6, 0, 364, 730);
@@ -191,7 +191,7 @@ public final class TellingTest {
 
     private static void tape() {
         Desk d = desk();
-        ClaimsOffice o = d.office;
+        Office o = d.office;
         check.due("7 n = -1", o.type(0, -1), BAD);
         check.due("7 n = 9", o.type(0, 9), BAD);
         check.due("7 three bytes", o.type(0x1122334455667788L, 3), 3);
@@ -210,16 +210,11 @@ public final class TellingTest {
         check.due("7 the highest first", o.clauses(0), 1);
         o.tell(0, o.count(4));
         d.due("7 told", d.said(), "in any;\n");
-        for (int i = 1; i <= 750; i++) {
-            check.due("7 type", o.type(7, 8), 8 * i);
-        }
-        check.due("7 one more", o.type(7, 1), FULL);
-        check.due("7 on the tape", o.count(8), 6000);
     }
 
     private static void clauses() {
         Desk d = desk();
-        ClaimsOffice o = d.office;
+        Office o = d.office;
         o.person();
         o.policy(0, 0, 0, 5);
         o.policy(6, 0, 0, 5);
@@ -251,51 +246,54 @@ public final class TellingTest {
         Desk d = desk();
         d.office.person();
         d.office.policy(0, 0, 0, 5);
-        fault(d, "averages;", 0);
-        fault(d, "average", 7);
-        fault(d, "average  ", 9);
-        fault(d, "average;;", 8);
-        fault(d, "Average;", 0);
-        fault(d, "item;", 4);
-        fault(d, "item 123456789 0;", 15);
-        fault(d, "item 1234567890;", 14);
-        fault(d, "item 0000000001;", 14);
-        fault(d, "in 1234567890;", 3);
-        fault(d, "in fire,", 7);
-        fault(d, "in fire unless", 14);
-        fault(d, "in fire unless ;", 15);
-        fault(d, "in fire unless items 1 items", 23);
-        fault(d, "in fire unless items 1);", 22);
-        fault(d, "in fire unless (items 1;", 23);
-        fault(d, "in fire unless is amount;", 18);
-        fault(d, "in any unless not;", 17);
-        fault(d, "in any unless or items 1;", 14);
-        fault(d, "in any unless items 1 and or", 26);
-        fault(d, "own item 5;", 4);
-        fault(d, "own loss fire;", 9);
-        fault(d, "by year;", 3);
-        fault(d, "by;", 2);
-        fault(d, "- item 5;", 0);
-        fault(d, "item\t5;", 4);
-        fault(d, "item 5;\u00ff", 7);
-        fault(d, "infire;", 0);
-        fault(d, "inz fire;", 0);
-        fault(d, ";".repeat(400), 0);
-        fault(d, "interests 5;", 0);
-        fault(d, "in fire in water;", 8);
-        fault(d, "average;".repeat(31), 240);
-        fault(d, "average;".repeat(30) + " #", 241);
+        fault("averages;", 0);
+        fault("average", 7);
+        fault("average  ", 9);
+        fault("average;;", 8);
+        fault("Average;", 0);
+        fault("item;", 4);
+        fault("item 123456789 0;", 15);
+        fault("item 1234567890;", 14);
+        fault("item 0000000001;", 14);
+        fault("in 1234567890;", 3);
+        fault("in fire,", 7);
+        fault("in fire unless", 14);
+        fault("in fire unless ;", 15);
+        fault("in fire unless items 1 items", 23);
+        fault("in fire unless items 1);", 22);
+        fault("in fire unless (items 1;", 23);
+        fault("in fire unless is amount;", 18);
+        fault("in any unless not;", 17);
+        fault("in any unless or items 1;", 14);
+        fault("in any unless items 1 and or", 26);
+        fault("own item 5;", 4);
+        fault("own loss fire;", 9);
+        fault("by year;", 3);
+        fault("by;", 2);
+        fault("- item 5;", 0);
+        fault("item\t5;", 4);
+        fault("item 5;\u00ff", 7);
+        fault("infire;", 0);
+        fault("inz fire;", 0);
+        fault(";".repeat(400), 0);
+        fault("interests 5;", 0);
+        fault("in fire in water;", 8);
+        fault("average;".repeat(31), 240);
+        fault("average;".repeat(30) + " #", 241);
         d.due("8 thirty", d.clauses(0, "average;".repeat(30)), 30);
-        fault(d, "in any unless " + "not ".repeat(21) + "is any;", 94);
-        fault(d, "in any unless " + "(".repeat(21) + "is any", 34);
-        fault(d, "in any unless " + "not(".repeat(10) + "is any and not is any" + ")".repeat(10) + ";", 65);
+        fault("in any unless " + "not ".repeat(21) + "is any;", 94);
+        fault("in any unless " + "(".repeat(21) + "is any", 34);
+        fault("in any unless " + "not(".repeat(10) + "is any and not is any" + ")".repeat(10) + ";", 65);
         d.due("8 twenty open", d.clauses(0, "in any unless " + "not(".repeat(10) + "is any" + ")".repeat(10)
                 + " and " + "not ".repeat(20) + "is any;"), 1);
         d.due("8 a not ends", d.clauses(0, "in any unless " + "(".repeat(19) + "not is any or not is fire"
                 + ")".repeat(19) + ";"), 1);
     }
 
-    private static void fault(Desk d, String text, int want) {
+    private static void fault(String text, int want) {
+        Desk d = desk();
+        d.office.person();
+        d.office.policy(0, 0, 0, 5);
         long now = d.now();
         d.due("8 fault of " + text, d.clauses(0, text), -10 - want);
         d.due("8 the tape stays", d.office.count(8), text.length());
@@ -303,7 +301,7 @@ public final class TellingTest {
     }
 
     private static void shareRules() {
-        ClaimsOffice o = desk().office;
+        Office o = desk().office;
         o.person();
         o.policy(0, 0, 0, 5);
         o.policy(6, 0, 0, 5);
@@ -331,7 +329,7 @@ public final class TellingTest {
     }
 
     private static void losses() {
-        ClaimsOffice o = desk().office;
+        Office o = desk().office;
         check.due("10 kind", o.loss(-1, 0), BAD);
         check.due("10 kind of a part", o.loss(5, 0), BAD);
         check.due("10 day", o.loss(0, -1), BAD);
@@ -348,7 +346,7 @@ public final class TellingTest {
     }
 
     private static void parts() {
-        ClaimsOffice o = desk().office;
+        Office o = desk().office;
         check.due("11 no whole", o.part(0, 1), BAD);
         o.loss(0, 70);
         check.due("11 hundredths", o.part(0, 0), BAD);
@@ -369,7 +367,7 @@ public final class TellingTest {
     }
 
     private static void items() {
-        ClaimsOffice o = desk().office;
+        Office o = desk().office;
         check.due("12 no loss", o.item(0, 0, 0, 0), BAD);
         o.loss(0, 5);
         o.loss(0, 5);
@@ -399,7 +397,7 @@ public final class TellingTest {
     }
 
     private static void notices() {
-        ClaimsOffice o = desk().office;
+        Office o = desk().office;
         o.person();
         o.policy(0, 0, 0, 100);
         o.policy(6, 0, 0, 100);

@@ -2,14 +2,15 @@
 final class Check {
     private int right;
     private int wrong;
+    private String sentence = "";
+
+    /** The words of the document that the next answers are due by; DocumentTest holds them against it. */
+    void sentence(String words) {
+        sentence = words;
+    }
 
     void due(String call, long got, long want) {
-        if (got == want) {
-            right++;
-            return;
-        }
-        wrong++;
-        System.out.println(call + " answered " + got + ", due is " + want);
+        due(call, "" + got, "" + want);
     }
 
     void due(String call, String got, String want) {
@@ -18,7 +19,8 @@ final class Check {
             return;
         }
         wrong++;
-        System.out.println(call + " answered [" + got + "], due is [" + want + "]");
+        System.out.println((sentence.isEmpty() ? "" : "\"" + sentence + "\": ") + call
+                + " answered [" + got + "], due is [" + want + "]");
     }
 
     void done() {

@@ -1,6 +1,6 @@
 /** An office with the turns that tests need again and again. */
 final class Desk {
-    final ClaimsOffice office = new ClaimsOffice();
+    final Office office = new Office();
     final Check check;
 
     Desk(Check check) {
@@ -25,11 +25,10 @@ final class Desk {
         return office.notify(0, -1, loss, day);
     }
 
-    void type(String text) {
+    /** THE TAPE has these bytes alone. */
+    void type(String bytes) {
         office.type(0, 0);
-        for (int i = 0; i < text.length(); i++) {
-            office.type(text.charAt(i), 1);
-        }
+        Tape.type(office, bytes);
     }
 
     int clauses(int policy, String text) {
@@ -39,7 +38,8 @@ final class Desk {
 
     String said() {
         StringBuilder said = new StringBuilder();
-        for (int i = 0; i < office.count(9); i++) {
+        int size = office.count(9);
+        for (int i = 0; i < size; i++) {
             said.append((char) office.letter(i));
         }
         return said.toString();

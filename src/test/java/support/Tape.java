@@ -44,7 +44,7 @@ final class Tape {
     }
 
     /** Puts the bytes behind what is on THE TAPE, eight in a call: how many calls. */
-    static int type(ClaimsOffice office, String bytes) {
+    static int type(Office office, String bytes) {
         int calls = 0;
         for (int i = 0; i < bytes.length(); i += 8) {
             long w = 0;
