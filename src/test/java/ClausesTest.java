@@ -8,6 +8,7 @@ public final class ClausesTest {
 
     public static void main(String[] args) {
         words();
+        otherWords();
         numbers();
         blanks();
         forms();
@@ -17,6 +18,7 @@ public final class ClausesTest {
         conditions();
         openAtOnce();
         testsOfConditions();
+        deepConditions();
         askingFromTheLeft();
         faults();
         earlyEnds();
@@ -88,6 +90,30 @@ public final class ClausesTest {
         }
         fault("{average;", 0);
         fault("@verage;", 0);
+    }
+
+    /** One letter more, one less, or another one makes it a WORD with which none goes on. */
+    private static void otherWords() {
+        check.sentence("or of the first TOKEN with which none goes on, whichever comes first;");
+        String[] texts = {"in any;", "out any;", "item 5;", "loss 5;", "year 5;", "own loss 5;", "own year 5;", "wait 5;",
+            "average;", "interest 5;", "by notice;", "by loss;", "in fire;", "in water;", "in theft;", "in storm;", "in third;",
+            "in any unless late 5;", "in any unless not late 5;", "in any unless late 5 and items 5;",
+            "in any unless late 5 or sort 5;", "in any unless amount 5;", "in any unless is any;"};
+        for (String text : texts) {
+            for (int i = 0; i < text.length(); i++) {
+                if (!Character.isLetter(text.charAt(i))) {
+                    continue;
+                }
+                int start = i;
+                while (start > 0 && Character.isLetter(text.charAt(start - 1))) {
+                    start--;
+                }
+                String ahead = text.substring(0, i);
+                fault(ahead + "q" + text.substring(i + 1), start);
+                fault(ahead + "q" + text.substring(i), start);
+                fault(ahead + text.substring(i + 1), start);
+            }
+        }
     }
 
     private static void numbers() {
@@ -358,6 +384,26 @@ public final class ClausesTest {
         holds(d, c, 24, "amount 500", false);
         holds(d, c, 25, "amount 599", true);
         holds(d, c, 25, "amount 600", false);
+    }
+
+    private static void deepConditions() {
+        check.sentence("(20 not and ( may be open at once, a not until its NOT ends.)");
+        Desk d = desk();
+        d.office.item(d.office.loss(WATER, 20), 1, 100, 100);
+        int c = d.office.notify(0, NONE, 0, 20);
+        // the innermost one decides: SORT 1 is there, SORT 2 is not
+        for (int deep : new int[] {1, 19, 20}) {
+            String ahead = "sort1and(sort2or ".repeat(deep);
+            String behind = ")".repeat(deep);
+            holds(d, c, 20, ahead + "is water" + behind, true);
+            holds(d, c, 20, ahead + "is fire" + behind, false);
+            holds(d, c, 20, "not ".repeat(deep) + "is water", deep % 2 == 0);
+            holds(d, c, 20, "not ".repeat(deep) + "is fire", deep % 2 == 1);
+            holds(d, c, 20, "(".repeat(deep) + "is fire" + behind + "or" + "(".repeat(deep) + "is water" + behind, true);
+        }
+        holds(d, c, 20, "not(".repeat(10) + "sort 1 and is water" + ")".repeat(10), true);
+        holds(d, c, 20, "not(sort2or sort1and ".repeat(9) + "not(is fire or sort2)" + ")".repeat(9), false);
+        holds(d, c, 20, "not(sort2or sort1and ".repeat(9) + "not(is water or sort2)" + ")".repeat(9), true);
     }
 
     private static void askingFromTheLeft() {

@@ -15,6 +15,10 @@ public final class DocumentTest {
     private static final Check check = new Check();
 
     public static void main(String[] args) throws IOException {
+        if (!Files.isReadable(DOCUMENT)) {
+            System.out.println("there is no " + DOCUMENT + " to hold the sentences against");
+            return;
+        }
         String document = flat(Files.readString(DOCUMENT));
         String rest = document.substring(document.indexOf("## Terms") + 8, document.indexOf("## Not promised"));
         for (String sentence : sentences()) {

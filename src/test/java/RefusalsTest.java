@@ -16,6 +16,7 @@ public final class RefusalsTest {
         policies();
         bundles();
         bundlesWithinThemselves();
+        bundlesByManyWays();
         periods();
         clauses();
         shareRules();
@@ -224,6 +225,34 @@ public final class RefusalsTest {
         check.due("3 out of 2, for the car", o.bundle(2, 3, 0), 1);
         check.due("2 in 1", o.bundle(1, 3, 2), 1);
         check.due("3 in 2 again", o.bundle(2, 3, 3), STATE);
+    }
+
+    private static void bundlesByManyWays() {
+        check.sentence("PLACE of a BUNDLE has a POLICY, or nothing (NONE), from now on: 1. BAD (no BUNDLE, too);"
+                + " STATE: the BUNDLE would stand within itself; FULL: 200 were told.");
+        // each has the next one in all its PLACES: 4^9 ways from the first to the last
+        Office o = new Office();
+        o.person();
+        for (int i = 0; i < 10; i++) {
+            o.policy(BUNDLE, 0, 0, 5);
+        }
+        for (int i = 0; i < 9; i++) {
+            for (int place = 0; place <= 3; place++) {
+                check.due("the next one", o.bundle(i, place, i + 1), 1);
+            }
+        }
+        for (int i = 0; i < 10; i++) {
+            check.due(i + " in the last one", o.bundle(9, i % 4, i), STATE);
+        }
+        // one PLACE that is left is enough, and when there is none, it may
+        for (int place = 0; place <= 2; place++) {
+            o.bundle(4, place, NONE);
+            check.due("the first in the last one", o.bundle(9, 0, 0), STATE);
+        }
+        o.bundle(4, 3, NONE);
+        check.due("the first in the last one now", o.bundle(9, 0, 0), 1);
+        check.due("the fifth in the first one", o.bundle(0, 0, 4), 1);
+        check.due("the last in the fifth one", o.bundle(4, 3, 9), STATE);
     }
 
     private static void periods() {

@@ -41,6 +41,7 @@ public final class RowsTest {
         findings2500WhileLaid();
         lookingAt();
         rowsAndCents();
+        fewerRows();
         trace200();
         saying();
         check.done();
@@ -437,6 +438,11 @@ public final class RowsTest {
         shareDue(sharing(1, 6, 6, 6, 6, 6, 6), 1, 6, 5, 1);
         // rounds of 10, 20, 30: 90 by 90 : 10 : 30: 30, 10, 30, then 20 for this office
         shareDue(sharing(1, 90, 10, 30), 1, 90, 2, 50);
+        // a round for each of them: 1000000 each, then 120000, 15000, 2500, 750, and 550 for this office
+        shareDue(sharing(1, 6000000, 400000, 1060000, 1127500, 1136000, 1137700), 1, 6000000, 5, 1138800);
+        Desk last = sharing(1, 6000000, 400000, 1060000, 1127500, 1136000, 6000000);
+        // here two are left for the 1500 behind the fourth round
+        shareDue(last, 1, 6000000, 5, 1138250);
         // those who owe nothing get nothing; nothing to share at all
         shareDue(sharing(1, 9, 0, 0, 9), 1, 9, 3, 5);
         shareDue(sharing(1, 0, 5), 1, 0, 1, 0);
@@ -491,8 +497,16 @@ public final class RowsTest {
         Desk d = carWith("own year 150; year 49;");
         d.claim(FIRE, 5, 100, 100);
         d.claim(FIRE, 5, 100, 100);
+        d.claim(FIRE, 5, 100, 100);
         d.dueRows(0, 5, "0 f0 | 0 0 100 | 8 0 -100");
         d.dueRows(1, 5, "49 f0 | 0 0 100 | 8 0 -50 | 9 0 -1");
+        d.dueRows(2, 5, "0 f0 | 0 0 100 | 9 0 -100");
+        // own year alone: nothing is beyond
+        d = carWith("own year 150;");
+        d.claim(FIRE, 5, MOST, MOST);
+        d.claim(FIRE, 5, MOST, MOST);
+        d.dueRows(0, 5, MOST - 150 + " f0 | 0 0 " + MOST + " | 8 0 -150");
+        d.dueRows(1, 5, MOST + " f0 | 0 0 " + MOST);
     }
 
     private static void casesThatAreLaid() {
@@ -591,9 +605,10 @@ public final class RowsTest {
     }
 
     private static void ordered(Desk d, int day, int[] order, String what) {
+        String[] due = {"100 f0 | 0 0 100", "100 f0 | 0 0 100", "50 f0 | 0 0 100 | 9 0 -50", "0 f0 | 0 0 100 | 9 0 -100",
+            "0 f0 | 0 0 100 | 9 0 -100"};
         for (int place = 0; place < order.length; place++) {
-            d.due("place " + place + " on day " + day + " " + what, d.owed(order[place], day),
-                    place < 2 ? 100 : place == 2 ? 50 : 0);
+            d.due("place " + place + " on day " + day + " " + what, d.rows(order[place], day), due[place]);
         }
     }
 
@@ -811,9 +826,28 @@ public final class RowsTest {
             d.owed(1, 5);
             d.due("its own ends it: no others are laid", o.count(10), before + 5);
         }
+        int second = o.notify(0, NONE, 0, 5);
+        d.clauses(0, "");
+        int before = o.count(10);
+        d.owed(second, 5);
+        d.due("without own year or year, with others ahead of it", o.count(10), before);
         d.due("asking for used() works none", o.used(0, 0, o.count(4)), 2);
-        d.due("nor left()", o.left(0, 0, o.count(4)), 999999997L);
+        d.due("nor left()", o.left(0, 0, o.count(4) - 1), 999999997L);
         d.due("findings", o.count(10), 14);
+        // of a case that is not the first: the first has a FINDING, but nothing is laid
+        d = Desk.with(check, LIABILITY, 0);
+        d.claim(FIRE, 5, 100, 100);
+        int late = d.claim(THIRD, 5, 100, 100);
+        d.due("owed", d.owed(late, 5), 100);
+        d.due("not laid, not worked", d.office.count(10), 0);
+        // others that are laid without a FINDING: not covered, waiting, or in order
+        d = carWith("year 500; own year 5; wait 3;");
+        d.claim(FIRE, 2, 100, 100);
+        d.claim(WATER, 5, 100, 100);
+        d.claim(FIRE, 5, 100, 100);
+        int last = d.claim(FIRE, 5, 100, 100);
+        d.due("owed", d.owed(last, 5), 100);
+        d.due("none is counted", d.office.count(10), 0);
     }
 
     private static void findings2500() {
@@ -950,6 +984,42 @@ public final class RowsTest {
         d.due("cents of row 0", o.cents(0), 70);
         d.due("cents of row 1", o.cents(1), -70);
         d.due("cents of nothing", new Office().cents(0), 0);
+    }
+
+    /** Nothing shows of what was LOOKED AT, or worked, before. */
+    private static void fewerRows() {
+        check.sentence("Its cents; 0: there is no such row.");
+        Desk d = Desk.with(check, TRANSPORT, 50);
+        Office o = d.office;
+        d.clauses(0, "average; own loss 5; loss 30; interest 3650; year 1000000;");
+        int c = d.claim(THEFT, 5, 1000, 1000);
+        int out = d.claim(THIRD, 5, 70, 70);
+        int outside = d.claim(FIRE, 1095, 70, 70);
+        for (int round = 0; round < 3; round++) {
+            d.dueRows(c, 1000, "59 f0 | 0 0 1000 | 3 0 -950 | 4 15 -7 | 5 0 -5 | 6 0 -8 | 11 0 29");
+            d.due("its trace", d.trace(), "114 104 70 95 95 60 95 95 71 95 2 73 63 95");
+            d.dueRows(c, 1000, "59 f0 | 0 0 1000 | 3 0 -950 | 4 15 -7 | 5 0 -5 | 6 0 -8 | 11 0 29");
+            d.dueRows(out, 5, "0 f0 | 0 0 70 | 1 -1 -70");
+            d.due("its trace", d.trace(), "94 70 95");
+            for (int i = 2; i < 8; i++) {
+                d.due("cents of row " + i, o.cents(i), 0);
+                d.due("code of row " + i, o.row(i, 0), NONE);
+            }
+            d.dueRows(outside, 1095, "none f3");
+            d.due("cents of row 0", o.cents(0), 0);
+            d.due("no trace", o.trace(0), NONE);
+        }
+        // row 11 of another case is none of this one: all that is PAID is of s
+        d = carWith("interest 3650;");
+        o = d.office;
+        d.claim(FIRE, 5, 1000, 1000);
+        int later = d.claim(FIRE, 15, 1000, 1000);
+        o.pay(0, 15, 1);
+        o.owed(0, 15, o.count(4));
+        o.pay(0, 15, 1);
+        d.due("PAID of INTEREST", o.used(0, 0, o.count(4)), 0);
+        o.pay(later, 15, 3);
+        d.due("PAID of s", o.used(0, 0, o.count(4)), 3);
     }
 
     private static void trace200() {

@@ -343,6 +343,8 @@ public final class TapesTest {
         check.due("the 64th bit alone", taken(held(low, 1)), 3);
         refused("the 65th bit alone", 1, held(low, 2));
         refused("none at all", 1, held(low, 0));
+        check.due("a last byte of 127", taken(40, 28, 127, 0, 44), 3);
+        check.due("a last byte of 127, the second", taken(40, 28, 255, 127, 126, 44), 3);
         refused("an eleventh byte", 1, 40, 36, 0, 0, 128, 128, 128, 128, 128, 128, 128, 128, 128, 128, 1, 44);
         refused("9 bytes, the last one 0", 1, 40, 36, 0, 0, 128, 128, 128, 128, 128, 128, 128, 128, 0, 44);
         check.due("9 bytes", taken(40, 36, 0, 0, 128, 128, 128, 128, 128, 128, 128, 128, 1, 44), 3);
@@ -403,6 +405,8 @@ public final class TapesTest {
         }
         String good = new Tape().add(1).add(3, 0, 0, 0, 400).add(8, 0, 5).add(5, 0, 0, MOST).good();
         check.due("SUM of 10^12", new Desk(check).takeIn(good), 4);
+        check.due("AMOUNT of 10^12", new Desk(check).takeIn(new Tape().add(8, 0, 5).add(10, 0, 0, MOST, 5).good()), 2);
+        check.due("VALUE of 10^12", new Desk(check).takeIn(new Tape().add(8, 0, 5).add(10, 0, 0, 5, MOST).good()), 2);
     }
 
     private static int[] text(int... bytes) {
@@ -422,6 +426,9 @@ public final class TapesTest {
         refused("-1 bytes", 6, text(12, 0, 1));
         refused("a byte -1", 6, text(12, 0, 2, 1));
         refused("a byte 256", 6, text(12, 0, 2, 128, 4));
+        refused("a byte 256 + 32", 6, text(12, 0, 2, 192, 4));
+        refused("a byte 32 - 256", 6, text(12, 0, 2, 191, 3));
+        refused("a byte 2^32 + 32", 6, text(12, 0, 2, 192, 128, 128, 128, 32));
         refused("a byte 32 in two", 6, text(12, 0, 2, 192, 0));
         refused("a byte 255, which is a FAULT", 6, text(12, 0, 2, 254, 3));
         refused("fewer bytes than told", 6, text(12, 0, 4, 64));
@@ -443,8 +450,16 @@ public final class TapesTest {
         }
         check.due("150 texts", new Desk(check).takeIn(tape.good()), 152);
         check.due("151 texts", new Desk(check).takeIn(tape.addClauses(0, "").good()), -10 - 6 - 450);
-        // a text stays as it was told: in THE LOG byte by byte
+        // each text is its own
         Desk d = new Desk(check);
+        tape = new Tape().add(1).add(3, 2, 0, 0, 1).addClauses(0, "item 5;").addClauses(0, "loss 77;").addClauses(0, "");
+        d.due("three texts", d.takeIn(tape.good()), 5);
+        int[] sizes = {0, 0, 0, 8, 9, 0};
+        for (int moment = 0; moment <= 5; moment++) {
+            d.due("told at " + moment, d.office.tell(0, moment), sizes[moment]);
+        }
+        // a text stays as it was told: in THE LOG byte by byte
+        d = new Desk(check);
         String log = new Tape().add(1).add(3, 2, 0, 0, 1).addClauses(0, " item\n007 ;").good();
         d.takeIn(log);
         d.due("written again", d.written(), Desk.numbers(log));
