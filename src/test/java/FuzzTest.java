@@ -262,7 +262,7 @@ public final class FuzzTest {
         forget(known);
     }
 
-    /** Such calls do not count: they change nothing, and nothing is told of them but a wrong one. */
+    /** Such calls do not count, though they go beyond 512: they change nothing, and just a wrong one is told of. */
     private void forget(int known) {
         while (calls.size() > known && !wrong) {
             calls.remove(calls.size() - 1);
