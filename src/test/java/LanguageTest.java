@@ -1,82 +1,43 @@
 import java.io.File;
-import java.lang.reflect.Constructor;
+import java.lang.reflect.Field;
 import java.lang.reflect.Method;
 import java.lang.reflect.Modifier;
+import java.net.URISyntaxException;
 import java.nio.file.Files;
 import java.nio.file.Path;
+import java.util.Arrays;
 import java.util.Set;
 import java.util.TreeSet;
 import java.util.regex.Matcher;
 import java.util.regex.Pattern;
 
-/** The face, and the rules of LANGUAGE.md that can be seen from the text and from the class. */
+/** The rules of LANGUAGE.md that can be seen from the text and from the class; its rule of the face is FaceTest's. */
 public final class LanguageTest {
     private static final Check check = new Check();
 
-    private static final String[] FACE = {"long cents(int)", "int batch()", "int bundle(int,int,int)", "int clauses(int)",
-        "int close(int,int)", "int correct(int,int,int,int,long,int)", "int count(int)", "int end()", "int finding()",
-        "int item(int,int,long,long)", "int letter(int)", "int loss(int,int)", "int notify(int,int,int,int)",
-        "int of(int,int)", "int part(int,int)", "int pay(int,int,long)", "int period(int,int,long)", "int person()",
-        "int policy(int,int,int,int)", "int rank(int,int)", "int recourse(int,int,long)", "int reopen(int,int,int)",
-        "int reserve(int,int,int,long)", "int row(int,int)", "int salvage(int,int,long)", "int say()",
-        "int share(int,int,int,long)", "int shareRule(int,int)", "int takeIn()", "int tell(int,int)", "int trace(int)",
-        "int type(long,int)", "int undo()", "int write()", "long factor(int,int,int,int,int)", "long left(int,int,int)",
-        "long owed(int,int,int)", "long reserved(int,int,int)", "long run(int,int,int,int)", "long used(int,int,int)"};
-
     public static void main(String[] args) throws Exception {
-        face();
-        constants();
         nested();
+        statics();
+        depths();
         String source = Files.readString(Path.of("src/main/java/ClaimsOffice.java"));
         words(source);
         sizes(source);
         check.done();
     }
 
-    private static void face() {
-        Set<String> due = new TreeSet<>(Set.of(FACE));
-        Set<String> got = new TreeSet<>();
-        for (Method m : ClaimsOffice.class.getDeclaredMethods()) {
-            if (!Modifier.isPrivate(m.getModifiers())) {
-                got.add(shape(m));
-                check.due("public: " + m, Modifier.isPublic(m.getModifiers()) ? 1 : 0, 1);
-            }
-        }
-        check.due("the face", got.toString(), due.toString());
-        Constructor<?>[] made = ClaimsOffice.class.getDeclaredConstructors();
-        check.due("constructors", made.length, 1);
-        check.due("the public constructor", Modifier.isPublic(made[0].getModifiers()) ? 1 : 0, 1);
-        check.due("final", Modifier.isFinal(ClaimsOffice.class.getModifiers()) ? 1 : 0, 1);
-    }
-
-    private static String shape(Method m) {
-        StringBuilder s = new StringBuilder(m.getReturnType() + " " + m.getName() + "(");
-        for (Class<?> c : m.getParameterTypes()) {
-            s.append(s.charAt(s.length() - 1) == '(' ? "" : ",").append(c);
-        }
-        return s.append(')').toString();
-    }
-
-    private static void constants() throws Exception {
-        String[] names = {"NONE", "BAD", "STATE", "DAY", "LATE", "MUCH", "FULL", "HELD"};
-        for (int i = 0; i < names.length; i++) {
-            check.due(names[i], ClaimsOffice.class.getField(names[i]).getInt(null), -1 - i);
-        }
-        check.due("NO_ANSWER", ClaimsOffice.NO_ANSWER, Long.MIN_VALUE);
-        check.due("public fields", ClaimsOffice.class.getFields().length, 9);
-    }
-
     private static void nested() {
         Set<String> names = new TreeSet<>();
-        for (String f : FACE) {
-            names.add(f.replaceAll(".* (\\w+)\\(.*", "$1"));
+        for (Method m : ClaimsOffice.class.getMethods()) {
+            if (m.getDeclaringClass() == ClaimsOffice.class) {
+                names.add(m.getName());
+            }
         }
         Class<?>[] classes = ClaimsOffice.class.getDeclaredClasses();
         check.due("rule 11: at most twelve classes", classes.length + 1 <= 12 ? 1 : 0, 1);
         for (Class<?> c : classes) {
             check.due("rule 2: static " + c, Modifier.isStatic(c.getModifiers()) ? 1 : 0, 1);
             long fields = 0;
-            for (java.lang.reflect.Field f : c.getDeclaredFields()) {
+            for (Field f : c.getDeclaredFields()) {
                 fields += Modifier.isStatic(f.getModifiers()) ? 0 : 1;
             }
             check.due("rule 11: fields of " + c, fields <= 20 ? 1 : 0, 1);
@@ -89,6 +50,40 @@ public final class LanguageTest {
             boolean hidden = Modifier.isPrivate(m.getModifiers()) && names.contains(m.getName());
             check.due("rule 1: no name of the face: " + m, hidden ? 1 : 0, 0);
         }
+    }
+
+    private static Class<?>[] allClasses() {
+        Class<?>[] inside = ClaimsOffice.class.getDeclaredClasses();
+        Class<?>[] all = Arrays.copyOf(inside, inside.length + 1);
+        all[inside.length] = ClaimsOffice.class;
+        return all;
+    }
+
+    private static void statics() {
+        Set<Class<?>> constants = Set.of(int.class, long.class, boolean.class, char.class, String.class, int[].class,
+                long[].class, char[].class, byte[].class);
+        for (Class<?> c : allClasses()) {
+            for (Field f : c.getDeclaredFields()) {
+                if (Modifier.isStatic(f.getModifiers())) {
+                    check.due("rule 5: final " + f, Modifier.isFinal(f.getModifiers()) ? 1 : 0, 1);
+                    check.due("rule 5: a constant " + f, constants.contains(f.getType()) ? 1 : 0, 1);
+                }
+                boolean inRows = f.getType().isArray() && f.getType().getComponentType().isArray();
+                check.due("rule 3: rows of one dimension " + f, inRows ? 1 : 0, 0);
+            }
+        }
+    }
+
+    private static void depths() throws URISyntaxException {
+        Path classes = Path.of(ClaimsOffice.class.getProtectionDomain().getCodeSource().getLocation().toURI());
+        CallGraph graph = new CallGraph(classes, allClasses());
+        check.due("methods that were seen", graph.methods().size() > 100 ? 1 : 0, 1);
+        for (String method : graph.methods()) {
+            check.due("rule 11: eight deep from " + method, graph.depth(method) <= 8 ? 1 : 0, 1);
+        }
+        check.due("rule 8: recursions, each with a guard on its depth", graph.recursions().toString(),
+                "[[Node.writeCondition], [Reader.readAnd, Reader.readNot, Reader.readOr], [Working.ask, Working.lossIs],"
+                + " [Working.holds]]");
     }
 
     private static void words(String source) {
